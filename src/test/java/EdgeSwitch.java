@@ -1,0 +1,73 @@
+/** What wall, sink and body have in common: a cell becomes an edge or ceases to be one. */
+final class EdgeSwitch {
+    interface Switch {
+        boolean put(SixWayGas gas, int x, int y, boolean on);
+    }
+
+    private final Expect expect;
+    private final String name;
+    private final int sort;
+    private final Switch call;
+
+    EdgeSwitch(Expect expect, String name, int sort, Switch call) {
+        this.expect = expect;
+        this.name = name;
+        this.sort = sort;
+        this.call = call;
+    }
+
+    void test() {
+        onAndOff();
+        refusedOnOtherEdges();
+        NoCell.refusedEverywhere(expect, name + " on", (g, x, y) -> call.put(g, x, y, true));
+        NoCell.refusedEverywhere(expect, name + " off", (g, x, y) -> call.put(g, x, y, false));
+    }
+
+    private void onAndOff() {
+        SixWayGas gas = new SixWayGas(8, 8);
+        gas.set(3, 4, 77);
+        gas.mark(3, 4, 2);
+        expect.equal(name + " off, none there", call.put(gas, 3, 4, false), false);
+        expect.equal("edge", gas.edge(3, 4), 0);
+        expect.equal(name + " on", call.put(gas, 3, 4, true), true);
+        expect.equal("edge", gas.edge(3, 4), sort);
+        expect.equal(name + " on again", call.put(gas, 3, 4, true), false);
+        expect.equal("edge", gas.edge(3, 4), sort);
+        expect.equal("the particles stay", gas.get(3, 4), 77);
+        expect.equal("the mark stays", gas.marked(0), 4 * 128 + 3 * 8 + 2);
+        expect.equal("the neighbour is none", gas.edge(4, 4), 0);
+        expect.equal(name + " off", call.put(gas, 3, 4, false), true);
+        expect.equal("edge", gas.edge(3, 4), 0);
+        expect.equal(name + " off again", call.put(gas, 3, 4, false), false);
+        expect.equal("corner", call.put(gas, 7, 7, true), true);
+        expect.equal("edge of the corner", gas.edge(7, 7), sort);
+    }
+
+    private void refusedOnOtherEdges() {
+        for (int other = 1; other <= 4; other++) {
+            if (other != sort) {
+                int there = other;
+                for (boolean on : new boolean[] {true, false}) {
+                    expect.refused(name + " " + on + " on edge " + other, IllegalStateException.class,
+                            () -> withEdge(there), g -> call.put(g, 2, 1, on));
+                }
+            }
+        }
+    }
+
+    static SixWayGas withEdge(int sort) {
+        SixWayGas gas = new SixWayGas(6, 6);
+        gas.set(0, 1, 1);
+        gas.set(4, 4, 127);
+        if (sort == 1) {
+            gas.wall(2, 1, true);
+        } else if (sort == 2) {
+            gas.source(2, 1, 128);
+        } else if (sort == 3) {
+            gas.sink(2, 1, true);
+        } else {
+            gas.body(2, 1, true);
+        }
+        return gas;
+    }
+}

@@ -1,0 +1,56 @@
+/** Promise 5: wall. */
+public final class P05WallTest {
+    public static void main(String[] args) {
+        Expect expect = new Expect();
+        new EdgeSwitch(expect, "wall", 1, SixWayGas::wall).test();
+        bouncing(expect);
+        noMeeting(expect);
+        goneWall(expect);
+        expect.end();
+    }
+
+    private static void bouncing(Expect expect) {
+        int[] p = {1, 0, -1, -1, 0, 1};
+        int[] q = {0, 1, 1, 0, -1, -1};
+        for (int kind = 0; kind < 6; kind++) {
+            // The walls make every cell round (3, 3) turn what arrives.
+            SixWayGas gas = new SixWayGas(8, 8);
+            for (int y = 0; y < 8; y++) {
+                for (int x = 0; x < 8; x++) {
+                    if (x != 3 || y != 3) {
+                        gas.wall(x, y, true);
+                    }
+                }
+            }
+            gas.set(3, 3, 1 << kind);
+            gas.mark(3, 3, kind);
+            gas.step(1);
+            expect.equal("kind turned", gas.marked(0) % 8, (kind + 3) % 6);
+            expect.equal("walls gave no particle", gas.book(0, 0), 0);
+            expect.equal("walls gave p", gas.book(0, 1), -2 * p[kind]);
+            expect.equal("walls gave q", gas.book(0, 2), -2 * q[kind]);
+            gas.step(1);
+            expect.equal("back in the middle, flying back", gas.get(3, 3), 1 << (kind + 3) % 6);
+        }
+    }
+
+    private static void noMeeting(Expect expect) {
+        SixWayGas gas = new SixWayGas(8, 8);
+        gas.wall(3, 3, true);
+        gas.set(3, 3, 64 | 9);
+        gas.step(1);
+        expect.equal("the resting one stays, unturned", gas.get(3, 3), 64);
+        expect.equal("0 flew unturned", gas.get(4, 3), 1);
+        expect.equal("3 flew unturned", gas.get(2, 3), 8);
+    }
+
+    private static void goneWall(Expect expect) {
+        SixWayGas gas = new SixWayGas(8, 8);
+        gas.wall(3, 3, true);
+        gas.wall(3, 3, false);
+        gas.set(2, 3, 1);
+        gas.step(1);
+        expect.equal("no wall, no turn", gas.get(3, 3), 1);
+        expect.equal("no wall, no book", gas.book(0, 1), 0);
+    }
+}

@@ -1,0 +1,30 @@
+/** Promise 17: check. */
+public final class P17CheckTest {
+    public static void main(String[] args) {
+        Expect expect = new Expect();
+        for (int w = 4; w <= 16; w += 4) {
+            for (int h = 4; h <= 16; h += 6) {
+                SixWayGas gas = new SixWayGas(w, h);
+                expect.equal("empty", gas.check(), 0);
+                gas.set(w - 1, h - 1, 1);
+                expect.equal("the last cell", gas.check(), (h - 1) * 16 + w);
+                gas.set(0, 0, 64);
+                expect.equal("the first cell too", gas.check(), (h - 1) * 16 + w + 64);
+            }
+        }
+        SixWayGas full = new SixWayGas(16, 16);
+        for (int i = 0; i < 256; i++) {
+            full.set(i % 16, i / 16, 127);
+        }
+        expect.equal("full", full.check(), 127 * 256 * 257 / 2);
+        SixWayGas gas = Gases.busy();
+        int due = 0;
+        for (int y = 0; y < 6; y++) {
+            for (int x = 0; x < 8; x++) {
+                due += gas.get(x, y) * (y * 16 + x + 1);
+            }
+        }
+        expect.equal("busy", gas.check(), due);
+        expect.end();
+    }
+}
