@@ -32,8 +32,9 @@ public final class SixWayGas {
     private static final int MOST_STEPS = 64;
     private static final int MOST_MARKS = 4;
 
-    private static final int[] MOMENTUM_P = {1, 0, -1, -1, 0, 1, 0};
-    private static final int[] MOMENTUM_Q = {0, 1, 1, 0, -1, -1, 0};
+    /** Of the flying kinds; the resting one has none. */
+    private static final int[] MOMENTUM_P = {1, 0, -1, -1, 0, 1};
+    private static final int[] MOMENTUM_Q = {0, 1, 1, 0, -1, -1};
     private static final int[] ALONG_P = {2, 1, -1, -2, -1, 1};
     private static final int[] ALONG_Q = {1, 2, 1, -1, -2, -1};
 
@@ -41,7 +42,7 @@ public final class SixWayGas {
     private final int[] edges;
     private final int[] rates;
     private final Books books;
-    private final Pusher pusher;
+    private final BodyAccount bodyAccount;
     private final Marks marks;
     private final int[] gainedCells;
     private final int[] leftCells;
@@ -55,7 +56,7 @@ public final class SixWayGas {
         edges = new int[grid.cells];
         rates = new int[grid.cells];
         books = new Books();
-        pusher = new Pusher();
+        bodyAccount = new BodyAccount();
         marks = new Marks();
         gainedCells = new int[grid.cells];
         leftCells = new int[grid.cells];
@@ -108,15 +109,15 @@ public final class SixWayGas {
 
     public void mass(int m) throws IllegalArgumentException {
         refuseOutside(m, 1, HIGHEST_MASS);
-        pusher.weight = m;
+        bodyAccount.weight = m;
     }
 
     public int account(int field) throws IllegalArgumentException {
         refuseOutside(field, 0, 2);
         if (field == 0) {
-            return pusher.gotP;
+            return bodyAccount.gotP;
         }
-        return field == 1 ? pusher.gotQ : pusher.moves;
+        return field == 1 ? bodyAccount.gotQ : bodyAccount.moves;
     }
 
     public void seed(int s) {
@@ -363,7 +364,7 @@ public final class SixWayGas {
                 cellBits[cell] = after;
                 books.enter(sort - 1, before, after);
                 if (sort == BODY) {
-                    pusher.receive(before, after);
+                    bodyAccount.receive(before, after);
                 }
             }
         }
@@ -389,10 +390,10 @@ public final class SixWayGas {
     }
 
     private void moveBody() {
-        int direction = pusher.heading();
+        int direction = bodyAccount.heading();
         if (direction != NONE && bodyCanMove(direction)) {
             shiftBody(direction);
-            pusher.spend(direction);
+            bodyAccount.spend(direction);
         }
     }
 
@@ -505,7 +506,7 @@ public final class SixWayGas {
     }
 
     /** The body's mass and account; which cells are the body's the edges say. */
-    private static final class Pusher {
+    private static final class BodyAccount {
         private int weight = FIRST_MASS;
         private int gotP = 0;
         private int gotQ = 0;

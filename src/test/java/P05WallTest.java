@@ -6,6 +6,7 @@ public final class P05WallTest {
         bouncing(expect);
         noMeeting(expect);
         goneWall(expect);
+        firstAndLastCell(expect);
         expect.end();
     }
 
@@ -52,5 +53,16 @@ public final class P05WallTest {
         gas.step(1);
         expect.equal("no wall, no turn", gas.get(3, 3), 1);
         expect.equal("no wall, no book", gas.book(0, 1), 0);
+    }
+
+    private static void firstAndLastCell(Expect expect) {
+        SixWayGas gas = new SixWayGas(8, 8);
+        gas.wall(0, 0, true);
+        gas.wall(7, 7, true);
+        gas.set(7, 0, 1);
+        gas.set(0, 7, 8);
+        gas.step(1);
+        expect.equal("the first cell", gas.get(0, 0), 8);
+        expect.equal("the last cell", gas.get(7, 7), 1);
     }
 }

@@ -44,9 +44,8 @@ public final class P06SourceTest {
 
     private static void byTheSeed(Expect expect) {
         int[] seeds = {0, 1, -1, 12345, Integer.MIN_VALUE, Integer.MAX_VALUE};
-        int[] rates = {1, 20, 128, 255, 256};
         for (int start : seeds) {
-            for (int rate : rates) {
+            for (int rate = 1; rate <= 256; rate++) {
                 SixWayGas gas = new SixWayGas(8, 8);
                 gas.source(5, 5, rate);
                 gas.seed(start);

@@ -11,6 +11,9 @@ public final class P08BodyTest {
         stopped(expect);
         ring(expect);
         noCells(expect);
+        everyPush(expect);
+        firstCell(expect);
+        fourMarks(expect);
         expect.end();
     }
 
@@ -178,5 +181,84 @@ public final class P08BodyTest {
         gas.body(6, 6, true);
         gas.step(1);
         expect.equal("with a cell it moves", gas.edge(7, 6), 4);
+    }
+
+    /** Pushes by all sets of kinds, with many masses: where it goes, and what is left of the account. */
+    private static void everyPush(Expect expect) {
+        for (int set = 0; set < 64; set++) {
+            for (int mass = 1; mass <= 10; mass++) {
+                onePush(expect, set, mass);
+            }
+        }
+    }
+
+    private static void onePush(Expect expect, int set, int mass) {
+        int[] p = {1, 0, -1, -1, 0, 1};
+        int[] q = {0, 1, 1, 0, -1, -1};
+        int[] kinds = new int[Integer.bitCount(set)];
+        int gotP = 0;
+        int gotQ = 0;
+        for (int kind = 0, i = 0; kind < 6; kind++) {
+            if ((set >> kind & 1) != 0) {
+                kinds[i++] = kind;
+                gotP += 2 * p[kind];
+                gotQ += 2 * q[kind];
+            }
+        }
+        int[] along = {2 * gotP + gotQ, gotP + 2 * gotQ, gotQ - gotP, -2 * gotP - gotQ, -gotP - 2 * gotQ, gotP - gotQ};
+        int d = 0;
+        while (d < 6 && along[d] < 2 * mass) {
+            d++;
+        }
+        int[][] places = {{4, 3}, {4, 2}, {3, 2}, {2, 3}, {3, 4}, {4, 4}, {3, 3}};
+        SixWayGas gas = hit(mass, kinds);
+        gas.wall(0, 0, true);
+        gas.step(1);
+        String what = "kinds " + set + ", mass " + mass;
+        expect.equal(what + ": the place", gas.edge(places[d][0], places[d][1]), 4);
+        expect.equal(what + ": moved", gas.account(2), d < 6 ? 1 : 0);
+        expect.equal(what + ": account p", gas.account(0), gotP - (d < 6 ? mass * p[d] : 0));
+        expect.equal(what + ": account q", gas.account(1), gotQ - (d < 6 ? mass * q[d] : 0));
+        expect.equal(what + ": the wall stays", gas.edge(0, 0), 1);
+    }
+
+    /** Into the first cell, out of it, and stopped in it. */
+    private static void firstCell(Expect expect) {
+        SixWayGas gas = new SixWayGas(8, 8);
+        gas.mass(2);
+        gas.body(7, 0, true);
+        gas.set(6, 0, 1);
+        gas.step(1);
+        expect.equal("into (0, 0)", gas.edge(0, 0), 4);
+        expect.equal("with its particle", gas.get(0, 0), 8);
+        gas.set(7, 0, 1);
+        gas.step(1);
+        expect.equal("out of (0, 0)", gas.edge(0, 0), 0);
+        expect.equal("into (1, 0)", gas.edge(1, 0), 4);
+        gas = new SixWayGas(8, 8);
+        gas.mass(2);
+        gas.body(0, 0, true);
+        gas.wall(1, 0, true);
+        gas.set(7, 0, 1);
+        gas.step(1);
+        expect.equal("stopped in (0, 0)", gas.edge(0, 0), 4);
+        expect.equal("by the wall", gas.edge(1, 0), 1);
+        expect.equal("not moved", gas.account(2), 0);
+    }
+
+    private static void fourMarks(Expect expect) {
+        SixWayGas gas = hit(2, 0);
+        gas.set(4, 3, 64);
+        gas.set(3, 3, 64);
+        gas.set(0, 0, 64);
+        gas.mark(2, 3, 0);
+        gas.mark(4, 3, 6);
+        gas.mark(0, 0, 6);
+        gas.mark(3, 3, 6);
+        gas.step(1);
+        expect.equal("bounced, with the body", gas.marked(0), 3 * 128 + 4 * 8 + 3);
+        expect.equal("from ahead, behind it now", gas.marked(1), 3 * 128 + 3 * 8 + 6);
+        expect.equal("far off", gas.marked(2), 6);
+        expect.equal("resting in the body", gas.marked(3), 3 * 128 + 4 * 8 + 6);
     }
 }

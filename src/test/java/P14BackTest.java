@@ -131,9 +131,20 @@ public final class P14BackTest {
                         () -> EdgeSwitch.withEdge(there), g -> g.back(n));
             }
         }
+        int[][] corners = {{0, 0}, {3, 0}, {0, 3}, {3, 3}};
+        for (int[] corner : corners) {
+            expect.refused("back with a sink in a corner", UnsupportedOperationException.class,
+                    () -> withSink(corner), g -> g.back(1));
+        }
         SixWayGas gas = EdgeSwitch.withEdge(3);
         gas.sink(2, 1, false);
         expect.equal("the sink is gone", gas.back(1), -1);
         expect.equal("walls are no hindrance", EdgeSwitch.withEdge(1).back(2), -2);
+    }
+
+    private static SixWayGas withSink(int[] place) {
+        SixWayGas gas = new SixWayGas(4, 4);
+        gas.sink(place[0], place[1], true);
+        return gas;
     }
 }
