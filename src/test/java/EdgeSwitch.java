@@ -16,14 +16,12 @@ final class EdgeSwitch {
         this.call = call;
     }
 
-    void test() {
-        onAndOff();
-        refusedOnOtherEdges();
-        NoCell.refusedEverywhere(expect, name + " on", (g, x, y) -> call.put(g, x, y, true));
-        NoCell.refusedEverywhere(expect, name + " off", (g, x, y) -> call.put(g, x, y, false));
+    void onAndOff() {
+        inTheMiddle();
+        everyCell();
     }
 
-    private void onAndOff() {
+    private void inTheMiddle() {
         SixWayGas gas = new SixWayGas(8, 8);
         gas.set(3, 4, 77);
         gas.mark(3, 4, 2);
@@ -39,11 +37,28 @@ final class EdgeSwitch {
         expect.equal(name + " off", call.put(gas, 3, 4, false), true);
         expect.equal("edge", gas.edge(3, 4), 0);
         expect.equal(name + " off again", call.put(gas, 3, 4, false), false);
-        expect.equal("corner", call.put(gas, 7, 7, true), true);
-        expect.equal("edge of the corner", gas.edge(7, 7), sort);
     }
 
-    private void refusedOnOtherEdges() {
+    /** From the first cell to the last one, until all are, and off again. */
+    private void everyCell() {
+        SixWayGas gas = new SixWayGas(4, 6);
+        for (boolean on : new boolean[] {true, false}) {
+            for (int i = 0; i < 24; i++) {
+                String what = name + " " + on + " " + Six.at(i % 4, i / 4);
+                expect.equal(what + " is new", call.put(gas, i % 4, i / 4, on), true);
+                expect.equal(what + " is not new", call.put(gas, i % 4, i / 4, on), false);
+                expect.equal(what + ": edge", gas.edge(i % 4, i / 4), on ? sort : 0);
+                expect.equal(what + ": the last one", gas.edge(3, 5), on == (i == 23) ? sort : 0);
+            }
+        }
+    }
+
+    void refusedForNoCell() {
+        NoCell.refusedEverywhere(expect, name + " on", (g, x, y) -> call.put(g, x, y, true));
+        NoCell.refusedEverywhere(expect, name + " off", (g, x, y) -> call.put(g, x, y, false));
+    }
+
+    void refusedOnOtherEdges() {
         for (int other = 1; other <= 4; other++) {
             if (other != sort) {
                 int there = other;
@@ -59,15 +74,7 @@ final class EdgeSwitch {
         SixWayGas gas = new SixWayGas(6, 6);
         gas.set(0, 1, 1);
         gas.set(4, 4, 127);
-        if (sort == 1) {
-            gas.wall(2, 1, true);
-        } else if (sort == 2) {
-            gas.source(2, 1, 128);
-        } else if (sort == 3) {
-            gas.sink(2, 1, true);
-        } else {
-            gas.body(2, 1, true);
-        }
+        Gases.putEdge(gas, 2, 1, sort);
         return gas;
     }
 }

@@ -5,6 +5,18 @@ import java.util.function.Supplier;
 final class Expect {
     private int asked = 0;
     private int wrong = 0;
+    private String named = "";
+    private int askedBeforeNamed = -1;
+
+    /** Names the words of the document that the next answers are about; they must stand in that section. */
+    void sentence(String section, String words) {
+        endSentence();
+        named = section + ", \"" + words + "\": ";
+        askedBeforeNamed = asked;
+        if (!Document.says(section, words)) {
+            tell("the document does not say so");
+        }
+    }
 
     void equal(String what, long got, long due) {
         asked++;
@@ -37,9 +49,16 @@ final class Expect {
     }
 
     void end() {
+        endSentence();
         System.out.println(wrong == 0 ? asked + " answers are as due" : wrong + " of " + asked + " are not as due");
         if (wrong != 0) {
             System.exit(1);
+        }
+    }
+
+    private void endSentence() {
+        if (asked == askedBeforeNamed) {
+            tell("nothing was asked about it");
         }
     }
 
@@ -55,7 +74,7 @@ final class Expect {
     private void tell(String text) {
         wrong++;
         if (wrong <= 20) {
-            System.out.println(text);
+            System.out.println(named + text);
         }
     }
 }

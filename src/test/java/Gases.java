@@ -39,4 +39,42 @@ final class Gases {
         gas.mark(3, 0, 4);
         return gas;
     }
+
+    static SixWayGas filled(int w, int h, int bits) {
+        SixWayGas gas = new SixWayGas(w, h);
+        for (int y = 0; y < h; y++) {
+            for (int x = 0; x < w; x++) {
+                gas.set(x, y, bits);
+            }
+        }
+        return gas;
+    }
+
+    /** Makes a cell an edge of that sort (1 .. 4); a source gets rate 128. */
+    static void putEdge(SixWayGas gas, int x, int y, int sort) {
+        switch (sort) {
+            case 1 -> gas.wall(x, y, true);
+            case 2 -> gas.source(x, y, 128);
+            case 3 -> gas.sink(x, y, true);
+            default -> gas.body(x, y, true);
+        }
+    }
+
+    static void takeEdge(SixWayGas gas, int x, int y, int sort) {
+        switch (sort) {
+            case 1 -> gas.wall(x, y, false);
+            case 2 -> gas.source(x, y, 0);
+            case 3 -> gas.sink(x, y, false);
+            default -> gas.body(x, y, false);
+        }
+    }
+
+    /** Every cell an edge of that sort. */
+    static void putEdges(SixWayGas gas, int w, int h, int sort) {
+        for (int y = 0; y < h; y++) {
+            for (int x = 0; x < w; x++) {
+                putEdge(gas, x, y, sort);
+            }
+        }
+    }
 }

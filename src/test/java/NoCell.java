@@ -4,8 +4,9 @@ final class NoCell {
         void on(SixWayGas gas, int x, int y);
     }
 
-    private static final int[][] PLACES = {{-1, 0}, {0, -1}, {8, 0}, {0, 6}, {8, 6}, {-1, -1}, {16, 3}, {3, 12},
-        {Integer.MAX_VALUE, 0}, {0, Integer.MAX_VALUE}, {Integer.MIN_VALUE, 2}, {2, Integer.MIN_VALUE}};
+    private static final int[][] PLACES = {{-1, 0}, {-1, 1}, {-1, 5}, {8, 0}, {8, 4}, {8, 5}, {0, -1}, {7, -1}, {0, 6},
+        {7, 6}, {8, 6}, {-1, -1}, {16, 3}, {3, 12}, {Integer.MAX_VALUE, 0}, {0, Integer.MAX_VALUE}, {Integer.MIN_VALUE, 2},
+        {2, Integer.MIN_VALUE}};
 
     private NoCell() {
     }

@@ -2,9 +2,11 @@
 public final class P02SetTest {
     public static void main(String[] args) {
         Expect expect = new Expect();
+        expect.sentence("Promise 2", "A cell gets bits.");
         everyBitsInEveryCell(expect);
         marksAreLost(expect);
         edgesTakeBitsToo(expect);
+        expect.sentence("Promise 2", "IllegalArgumentException when they are not 0 .. 127.");
         wrongCalls(expect);
         expect.end();
     }
@@ -18,6 +20,13 @@ public final class P02SetTest {
         gas = new SixWayGas(4, 4);
         gas.set(3, 2, 127);
         expect.equal("only the one cell", gas.sum(0, 0, 4, 4, 0), 7);
+        for (int i = 0; i < 16; i++) {
+            gas.set(i % 4, i / 4, 127);
+            gas.set(i % 4, i / 4, i);
+        }
+        for (int i = 0; i < 16; i++) {
+            expect.equal("other bits in the place of all in " + Six.at(i % 4, i / 4), gas.get(i % 4, i / 4), i);
+        }
     }
 
     private static void marksAreLost(Expect expect) {
@@ -54,6 +63,11 @@ public final class P02SetTest {
     }
 
     private static void wrongCalls(Expect expect) {
+        SixWayGas gas = new SixWayGas(4, 4);
+        gas.set(0, 0, 0);
+        gas.set(3, 3, 127);
+        expect.equal("0 is fine", gas.get(0, 0), 0);
+        expect.equal("127 is fine", gas.get(3, 3), 127);
         int[] badBits = {-1, 128, Integer.MIN_VALUE, Integer.MAX_VALUE};
         for (int bits : badBits) {
             expect.refused("set(1, 1, " + bits + ")", IllegalArgumentException.class, Gases::busy, g -> g.set(1, 1, bits));

@@ -3,8 +3,11 @@ public final class P04RuleTest {
     public static void main(String[] args) {
         Expect expect = new Expect();
         SixWayGas gas = new SixWayGas(8, 8);
+        expect.sentence("Promise 4", "What THE RULE makes of bits.");
         everyNamedCase(expect, gas);
         everyBits(expect, gas);
+        changesNothing(expect);
+        expect.sentence("Promise 4", "IllegalArgumentException when bits are not 0 .. 127, or sense is not 0 or 1.");
         wrongCalls(expect);
         expect.end();
     }
@@ -68,8 +71,21 @@ public final class P04RuleTest {
         }
     }
 
+    /** It only tells: no cell and no time is changed by it. */
+    private static void changesNothing(Expect expect) {
+        SixWayGas gas = Gases.busy();
+        for (int bits = 0; bits < 128; bits++) {
+            gas.rule(bits, bits % 2);
+        }
+        expect.same("the state behind many calls", State.of(gas), State.of(Gases.busy()));
+    }
+
     private static void wrongCalls(Expect expect) {
-        int[][] wrong = {{-1, 0}, {128, 0}, {128, 1}, {9, -1}, {9, 2}, {0, 2}, {-1, 2}, {Integer.MIN_VALUE, 0},
+        SixWayGas gas = new SixWayGas(4, 4);
+        expect.equal("rule(0, 0) is fine", gas.rule(0, 0), 0);
+        expect.equal("rule(127, 1) is fine", gas.rule(127, 1), 127);
+        int[][] wrong = {{-1, 0}, {128, 0}, {128, 1}, {9, -1}, {9, 2}, {0, 2}, {127, 2}, {0, -1}, {-1, 2},
+            {128, -1}, {Integer.MIN_VALUE, 0},
             {Integer.MAX_VALUE, 1}, {1, Integer.MAX_VALUE}, {1, Integer.MIN_VALUE}};
         for (int[] w : wrong) {
             expect.refused("rule(" + w[0] + ", " + w[1] + ")", IllegalArgumentException.class, Gases::busy,

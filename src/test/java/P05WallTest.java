@@ -2,11 +2,16 @@
 public final class P05WallTest {
     public static void main(String[] args) {
         Expect expect = new Expect();
-        new EdgeSwitch(expect, "wall", 1, SixWayGas::wall).test();
+        EdgeSwitch edge = new EdgeSwitch(expect, "wall", 1, SixWayGas::wall);
+        expect.sentence("Promise 5", "A cell is a wall, or not any more: whether that is new.");
+        edge.onAndOff();
+        edge.refusedForNoCell();
         bouncing(expect);
         noMeeting(expect);
         goneWall(expect);
         firstAndLastCell(expect);
+        expect.sentence("Promise 5", "IllegalStateException when it is a source, a sink or one of the body.");
+        edge.refusedOnOtherEdges();
         expect.end();
     }
 

@@ -2,12 +2,31 @@
 public final class P06SourceTest {
     public static void main(String[] args) {
         Expect expect = new Expect();
+        expect.sentence("Promise 6", "A cell is a source with a rate, or none any more (rate 0).");
         onAndOff(expect);
+        everyCell(expect);
+        NoCell.refusedEverywhere(expect, "source", (g, x, y) -> g.source(x, y, 256));
         highestRate(expect);
         byTheSeed(expect);
         rowByRow(expect);
-        wrongCalls(expect);
+        expect.sentence("Promise 6", "IllegalArgumentException when rate is not 0 .. 256;");
+        wrongRates(expect);
+        expect.sentence("Promise 6", "IllegalStateException when it is a wall, a sink or one of the body.");
+        otherEdges(expect);
         expect.end();
+    }
+
+    /** From the first cell to the last one, with the lowest and the highest rate, and rate 0 again. */
+    private static void everyCell(Expect expect) {
+        SixWayGas gas = new SixWayGas(4, 6);
+        for (int rate : new int[] {1, 256, 0, 0}) {
+            for (int i = 0; i < 24; i++) {
+                gas.source(i % 4, i / 4, rate);
+                expect.equal("rate " + rate + " in " + Six.at(i % 4, i / 4), gas.edge(i % 4, i / 4), rate > 0 ? 2 : 0);
+            }
+        }
+        gas.step(1);
+        expect.equal("rate 0 gives nothing", gas.check(), 0);
     }
 
     private static void onAndOff(Expect expect) {
@@ -83,7 +102,13 @@ public final class P06SourceTest {
         }
     }
 
-    private static void wrongCalls(Expect expect) {
+    private static void wrongRates(Expect expect) {
+        for (int rate : new int[] {0, 256}) {
+            SixWayGas gas = new SixWayGas(4, 4);
+            gas.source(0, 0, rate);
+            gas.step(1);
+            expect.equal("rate " + rate + " is fine", gas.get(0, 0), rate == 0 ? 0 : 127);
+        }
         int[] rates = {-1, 257, Integer.MIN_VALUE, Integer.MAX_VALUE};
         for (int rate : rates) {
             expect.refused("rate " + rate, IllegalArgumentException.class, Gases::busy, g -> g.source(1, 1, rate));
@@ -94,6 +119,9 @@ public final class P06SourceTest {
             expect.refused("rate " + rate + " for no cell", IndexOutOfBoundsException.class, Gases::busy,
                     g -> g.source(0, 6, rate));
         }
+    }
+
+    private static void otherEdges(Expect expect) {
         for (int sort = 1; sort <= 4; sort++) {
             if (sort != 2) {
                 int there = sort;
@@ -103,6 +131,5 @@ public final class P06SourceTest {
                 }
             }
         }
-        NoCell.refusedEverywhere(expect, "source", (g, x, y) -> g.source(x, y, 256));
     }
 }

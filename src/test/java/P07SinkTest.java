@@ -2,9 +2,14 @@
 public final class P07SinkTest {
     public static void main(String[] args) {
         Expect expect = new Expect();
-        new EdgeSwitch(expect, "sink", 3, SixWayGas::sink).test();
+        EdgeSwitch edge = new EdgeSwitch(expect, "sink", 3, SixWayGas::sink);
+        expect.sentence("Promise 7", "A cell is a sink, or not any more: whether that is new.");
+        edge.onAndOff();
+        edge.refusedForNoCell();
         takesAll(expect);
         meetsBefore(expect);
+        expect.sentence("Promise 7", "IllegalStateException when it is a wall, a source or one of the body.");
+        edge.refusedOnOtherEdges();
         expect.end();
     }
 

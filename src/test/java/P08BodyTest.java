@@ -2,7 +2,10 @@
 public final class P08BodyTest {
     public static void main(String[] args) {
         Expect expect = new Expect();
-        new EdgeSwitch(expect, "body", 4, SixWayGas::body).test();
+        EdgeSwitch edge = new EdgeSwitch(expect, "body", 4, SixWayGas::body);
+        expect.sentence("Promise 8", "A cell is one of the body, or not any more: whether that is new.");
+        edge.onAndOff();
+        edge.refusedForNoCell();
         bouncing(expect);
         moves(expect);
         firstDirection(expect);
@@ -14,6 +17,8 @@ public final class P08BodyTest {
         everyPush(expect);
         firstCell(expect);
         fourMarks(expect);
+        expect.sentence("Promise 8", "IllegalStateException when it is a wall, a source or a sink.");
+        edge.refusedOnOtherEdges();
         expect.end();
     }
 

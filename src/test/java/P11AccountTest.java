@@ -2,6 +2,8 @@
 public final class P11AccountTest {
     public static void main(String[] args) {
         Expect expect = new Expect();
+        expect.sentence("Promise 11", "The body's account, the first or the second number (field 0, 1), or how often it moved "
+                + "(2).");
         SixWayGas gas = new SixWayGas(8, 8);
         for (int field = 0; field < 3; field++) {
             expect.equal("at first", gas.account(field), 0);
@@ -9,6 +11,10 @@ public final class P11AccountTest {
         everyKind(expect);
         againstTheBook(expect);
         wallsAreNotTheBody(expect);
+        expect.sentence("Promise 11", "IllegalArgumentException when field is none of these.");
+        for (int field = 0; field <= 2; field++) {
+            expect.equal("field " + field + " is fine", new SixWayGas(4, 4).account(field), 0);
+        }
         for (int field : new int[] {-1, 3, 4, Integer.MIN_VALUE, Integer.MAX_VALUE}) {
             expect.refused("account " + field, IllegalArgumentException.class, Gases::busy, g -> g.account(field));
         }

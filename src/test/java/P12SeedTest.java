@@ -2,6 +2,7 @@
 public final class P12SeedTest {
     public static void main(String[] args) {
         Expect expect = new Expect();
+        expect.sentence("Promise 12", "The seed from now on (at first it is 0).");
         expect.equal("at first it is 0", after(false, 0, 1), after(true, 0, 1));
         for (int seed : new int[] {0, 1, 2, 77, -5, Integer.MIN_VALUE, Integer.MAX_VALUE}) {
             expect.equal("seed " + seed, after(true, seed, 1), due(seed, 1));

@@ -2,11 +2,15 @@
 public final class P13StepTest {
     public static void main(String[] args) {
         Expect expect = new Expect();
+        expect.sentence("Promise 13", "Makes n steps: the time then.");
         time(expect);
         flight(expect);
         senses(expect);
         order(expect);
         balance(expect);
+        expect.sentence("Promise 13", "IllegalArgumentException when n is not 0 .. 64.");
+        expect.equal("0 is fine", new SixWayGas(4, 4).step(0), 0);
+        expect.equal("64 is fine", new SixWayGas(4, 4).step(64), 64);
         for (int n : new int[] {-1, 65, Integer.MIN_VALUE, Integer.MAX_VALUE}) {
             expect.refused("step " + n, IllegalArgumentException.class, Gases::busy, g -> g.step(n));
         }
@@ -19,6 +23,9 @@ public final class P13StepTest {
         expect.equal("one", gas.step(1), 1);
         expect.equal("64 more", gas.step(64), 65);
         expect.equal("none", gas.step(0), 65);
+        SixWayGas still = Gases.busy();
+        still.step(0);
+        expect.same("no steps change nothing", State.of(still), State.of(Gases.busy()));
         SixWayGas once = Gases.busy();
         SixWayGas often = Gases.busy();
         once.step(37);

@@ -2,13 +2,17 @@
 public final class P14BackTest {
     public static void main(String[] args) {
         Expect expect = new Expect();
+        expect.sentence("Promise 14", "Takes n steps back: the time then.");
         thereAndBack(expect);
         belowZero(expect);
         everyBits(expect);
         withTheWallsOfNow(expect);
         marks(expect);
         otherBooksStay(expect);
-        wrongCalls(expect);
+        expect.sentence("Promise 14", "IllegalArgumentException when n is not 0 .. 64;");
+        wrongNumbers(expect);
+        expect.sentence("Promise 14", "UnsupportedOperationException when there is a source, a sink or a cell of the body.");
+        otherEdges(expect);
         expect.end();
     }
 
@@ -119,11 +123,16 @@ public final class P14BackTest {
         return text.toString();
     }
 
-    private static void wrongCalls(Expect expect) {
+    private static void wrongNumbers(Expect expect) {
+        expect.equal("0 is fine", new SixWayGas(4, 4).back(0), 0);
+        expect.equal("64 is fine", new SixWayGas(4, 4).back(64), -64);
         for (int n : new int[] {-1, 65, Integer.MIN_VALUE, Integer.MAX_VALUE}) {
             expect.refused("back " + n, IllegalArgumentException.class, Gases::walled, g -> g.back(n));
             expect.refused("back " + n + " with other edges", IllegalArgumentException.class, Gases::busy, g -> g.back(n));
         }
+    }
+
+    private static void otherEdges(Expect expect) {
         for (int sort = 2; sort <= 4; sort++) {
             int there = sort;
             for (int n : new int[] {0, 1, 64}) {
@@ -133,18 +142,27 @@ public final class P14BackTest {
         }
         int[][] corners = {{0, 0}, {3, 0}, {0, 3}, {3, 3}};
         for (int[] corner : corners) {
-            expect.refused("back with a sink in a corner", UnsupportedOperationException.class,
-                    () -> withSink(corner), g -> g.back(1));
+            for (int sort = 2; sort <= 4; sort++) {
+                int there = sort;
+                expect.refused("back with edge " + sort + " in a corner", UnsupportedOperationException.class,
+                        () -> withEdge(corner, there), g -> g.back(1));
+            }
         }
-        SixWayGas gas = EdgeSwitch.withEdge(3);
-        gas.sink(2, 1, false);
-        expect.equal("the sink is gone", gas.back(1), -1);
+        for (int sort = 2; sort <= 4; sort++) {
+            SixWayGas gas = EdgeSwitch.withEdge(sort);
+            Gases.takeEdge(gas, 2, 1, sort);
+            expect.equal("edge " + sort + " is gone", gas.back(1), -1);
+        }
+        SixWayGas walls = new SixWayGas(4, 4);
+        Gases.putEdges(walls, 4, 4, 1);
+        expect.equal("nothing but walls", walls.back(1), -1);
+        expect.equal("no edges", new SixWayGas(4, 4).back(1), -1);
         expect.equal("walls are no hindrance", EdgeSwitch.withEdge(1).back(2), -2);
     }
 
-    private static SixWayGas withSink(int[] place) {
+    private static SixWayGas withEdge(int[] place, int sort) {
         SixWayGas gas = new SixWayGas(4, 4);
-        gas.sink(place[0], place[1], true);
+        Gases.putEdge(gas, place[0], place[1], sort);
         return gas;
     }
 }

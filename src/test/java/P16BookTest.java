@@ -2,9 +2,12 @@
 public final class P16BookTest {
     public static void main(String[] args) {
         Expect expect = new Expect();
+        expect.sentence("Promise 16", "What walls, sources, sinks or the body (kind 0 .. 3) gave: particles (field 0), or "
+                + "momentum (1, 2).");
         eachInItsOwn(expect);
         addedUp(expect);
         keptWhenEdgesGo(expect);
+        expect.sentence("Promise 16", "IllegalArgumentException when kind or field is none of these.");
         wrongCalls(expect);
         expect.end();
     }
@@ -68,6 +71,9 @@ public final class P16BookTest {
     }
 
     private static void wrongCalls(Expect expect) {
+        for (int i = 0; i < 12; i++) {
+            expect.equal("book(" + i / 3 + ", " + i % 3 + ") is fine", new SixWayGas(4, 4).book(i / 3, i % 3), 0);
+        }
         int[] off = {-1, Integer.MIN_VALUE, Integer.MAX_VALUE};
         for (int value : off) {
             expect.refused("kind " + value, IllegalArgumentException.class, Gases::busy, g -> g.book(value, 0));

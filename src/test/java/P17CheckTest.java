@@ -2,6 +2,7 @@
 public final class P17CheckTest {
     public static void main(String[] args) {
         Expect expect = new Expect();
+        expect.sentence("Promise 17", "The sum over all cells of bits * (y * 16 + x + 1).");
         for (int w = 4; w <= 16; w += 4) {
             for (int h = 4; h <= 16; h += 6) {
                 SixWayGas gas = new SixWayGas(w, h);
@@ -12,6 +13,14 @@ public final class P17CheckTest {
                 expect.equal("the first cell too", gas.check(), (h - 1) * 16 + w + 64);
             }
         }
+        for (int i = 0; i < 256; i++) {
+            SixWayGas one = new SixWayGas(16, 16);
+            one.set(i % 16, i / 16, 127);
+            expect.equal("one full cell, " + Six.at(i % 16, i / 16), one.check(), 127 * (i + 1));
+        }
+        SixWayGas small = Gases.filled(4, 4, 127);
+        // The rows begin with 1, 17, 33 and 49, also where they are shorter than 16.
+        expect.equal("a full small grid", small.check(), 127 * (10 + 74 + 138 + 202));
         SixWayGas full = new SixWayGas(16, 16);
         for (int i = 0; i < 256; i++) {
             full.set(i % 16, i / 16, 127);

@@ -2,11 +2,28 @@
 public final class P19MarkedTest {
     public static void main(String[] args) {
         Expect expect = new Expect();
+        expect.sentence("Promise 19", "Where a mark's particle is: 128 * y + 8 * x + its kind; NONE when it is lost.");
+        firstAndLastPlace(expect);
         flight(expect);
         everyMeeting(expect);
         edges(expect);
+        expect.sentence("Promise 19", "IndexOutOfBoundsException when there is no such mark.");
         wrongCalls(expect);
         expect.end();
+    }
+
+    private static void firstAndLastPlace(Expect expect) {
+        SixWayGas gas = new SixWayGas(16, 16);
+        int[][] places = {{0, 0, 0, 0}, {15, 0, 5, 125}, {0, 15, 1, 1921}, {15, 15, 6, 2046}};
+        for (int[] place : places) {
+            gas.set(place[0], place[1], 127);
+            gas.mark(place[0], place[1], place[2]);
+        }
+        for (int mark = 0; mark <= 3; mark++) {
+            expect.equal("mark " + mark, gas.marked(mark), places[mark][3]);
+        }
+        gas.set(0, 0, 127);
+        expect.equal("lost is NONE, not 0", gas.marked(0), -1);
     }
 
     private static void flight(Expect expect) {
@@ -91,9 +108,27 @@ public final class P19MarkedTest {
             // The busy gas has the marks 0, 1 and 2.
             expect.refused("marked " + mark, IndexOutOfBoundsException.class, Gases::busy, g -> g.marked(mark));
         }
+        SixWayGas gas = new SixWayGas(4, 4);
+        gas.set(0, 0, 127);
+        for (int mark = 0; mark <= 3; mark++) {
+            gas.mark(0, 0, mark);
+            expect.equal("the newest mark is fine", gas.marked(mark), mark);
+            int count = mark + 1;
+            expect.refused("one behind the last of " + count, IndexOutOfBoundsException.class, () -> withMarks(count),
+                    g -> g.marked(count));
+        }
         for (int mark : new int[] {-1, 0, 1}) {
             expect.refused("no marks, " + mark, IndexOutOfBoundsException.class, () -> new SixWayGas(4, 4),
                     g -> g.marked(mark));
         }
+    }
+
+    private static SixWayGas withMarks(int count) {
+        SixWayGas gas = new SixWayGas(4, 4);
+        gas.set(0, 0, 127);
+        for (int kind = 0; kind < count; kind++) {
+            gas.mark(0, 0, kind);
+        }
+        return gas;
     }
 }

@@ -1,4 +1,4 @@
-/** All that can be read of a gas, as a text. */
+/** All that can be read of a gas, as a text; with few calls, as an object is promised for 512 only. */
 final class State {
     private State() {
     }
@@ -6,11 +6,15 @@ final class State {
     static String of(SixWayGas gas) {
         StringBuilder text = new StringBuilder();
         text.append("time ").append(gas.step(0)).append(" check ").append(gas.check());
-        for (int y = 0; y < height(gas); y++) {
-            for (int x = 0; x < width(gas); x++) {
-                if (gas.get(x, y) != 0 || gas.edge(x, y) != 0) {
+        int width = width(gas);
+        int height = height(gas);
+        for (int y = 0; y < height; y++) {
+            for (int x = 0; x < width; x++) {
+                int bits = gas.get(x, y);
+                int edge = gas.edge(x, y);
+                if (bits != 0 || edge != 0) {
                     text.append(" (").append(x).append(',').append(y).append(' ');
-                    text.append(gas.edge(x, y)).append(':').append(gas.get(x, y)).append(')');
+                    text.append(edge).append(':').append(bits).append(')');
                 }
             }
         }
@@ -21,9 +25,7 @@ final class State {
         }
         text.append(" account ").append(gas.account(0)).append('/').append(gas.account(1));
         text.append(" moved ").append(gas.account(2)).append(" marks");
-        for (int mark = 0; mark < marks(gas); mark++) {
-            text.append(' ').append(gas.marked(mark));
-        }
+        appendMarks(text, gas);
         return text.toString();
     }
 
@@ -52,16 +54,14 @@ final class State {
         }
     }
 
-    private static int marks(SixWayGas gas) {
-        int count = 0;
+    private static void appendMarks(StringBuilder text, SixWayGas gas) {
         try {
-            while (count < 100) {
-                gas.marked(count);
-                count++;
+            for (int mark = 0; mark < 100; mark++) {
+                int place = gas.marked(mark);
+                text.append(' ').append(place);
             }
         } catch (IndexOutOfBoundsException e) {
-            return count;
+            // That was the last one.
         }
-        return count;
     }
 }
