@@ -8,7 +8,7 @@ import java.util.regex.Pattern;
 
 /** That every word of "Terms" and of the promises stands in a sentence that some test names. */
 public final class DocumentTest {
-    private static final Pattern NAMED = Pattern.compile("\\.sentence\\(\\s*\"([^\"]*)\",\\s*\"([^\"]*)\"\\)");
+    private static final Pattern NAMED = Pattern.compile("\\.sentence\\(\\s*\"([^\"]*)\",\\s*\"([^\"]*)\",");
 
     public static void main(String[] args) throws IOException {
         Expect expect = new Expect();

@@ -4,24 +4,22 @@ final class EdgeSwitch {
         boolean put(SixWayGas gas, int x, int y, boolean on);
     }
 
-    private final Expect expect;
     private final String name;
     private final int sort;
     private final Switch call;
 
-    EdgeSwitch(Expect expect, String name, int sort, Switch call) {
-        this.expect = expect;
+    EdgeSwitch(String name, int sort, Switch call) {
         this.name = name;
         this.sort = sort;
         this.call = call;
     }
 
-    void onAndOff() {
-        inTheMiddle();
-        everyCell();
+    void onAndOff(Expect expect) {
+        inTheMiddle(expect);
+        everyCell(expect);
     }
 
-    private void inTheMiddle() {
+    private void inTheMiddle(Expect expect) {
         SixWayGas gas = new SixWayGas(8, 8);
         gas.set(3, 4, 77);
         gas.mark(3, 4, 2);
@@ -40,7 +38,7 @@ final class EdgeSwitch {
     }
 
     /** From the first cell to the last one, until all are, and off again. */
-    private void everyCell() {
+    private void everyCell(Expect expect) {
         SixWayGas gas = new SixWayGas(4, 6);
         for (boolean on : new boolean[] {true, false}) {
             for (int i = 0; i < 24; i++) {
@@ -53,12 +51,12 @@ final class EdgeSwitch {
         }
     }
 
-    void refusedForNoCell() {
+    void refusedForNoCell(Expect expect) {
         NoCell.refusedEverywhere(expect, name + " on", (g, x, y) -> call.put(g, x, y, true));
         NoCell.refusedEverywhere(expect, name + " off", (g, x, y) -> call.put(g, x, y, false));
     }
 
-    void refusedOnOtherEdges() {
+    void refusedOnOtherEdges(Expect expect) {
         for (int other = 1; other <= 4; other++) {
             if (other != sort) {
                 int there = other;

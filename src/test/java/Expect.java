@@ -3,18 +3,63 @@ import java.util.function.Supplier;
 
 /** Collects what is not as due in one test, and ends it with exit code 1 if there was something. */
 final class Expect {
+    /** Of what is wrong with one sentence: a few are enough to see it, and leave room for the other sentences. */
+    private static final int MOST_TOLD = 5;
+
+    /** Far more than any test takes. */
+    private static final long MOST_SECONDS = 120;
+
     private int asked = 0;
     private int wrong = 0;
+    private int wrongOfSentence = 0;
     private String named = "";
-    private int askedBeforeNamed = -1;
 
-    /** Names the words of the document that the next answers are about; they must stand in that section. */
-    void sentence(String section, String words) {
-        endSentence();
+    Expect() {
+        Thread watch = new Thread(Expect::endWhenTooLong);
+        watch.setDaemon(true);
+        watch.start();
+    }
+
+    /** A call that does not end is a fault, too: the test then fails instead of waiting for it. */
+    private static void endWhenTooLong() {
+        try {
+            Thread.sleep(MOST_SECONDS * 1000);
+        } catch (InterruptedException e) {
+            return;
+        }
+        System.out.println("a call does not end");
+        Runtime.getRuntime().halt(1);
+    }
+
+    /** A part of a test. */
+    interface Part {
+        void test(Expect expect);
+    }
+
+    /** Tests what a sentence says; its words must stand in that section of the document. */
+    void sentence(String section, String words, Part... parts) {
         named = section + ", \"" + words + "\": ";
-        askedBeforeNamed = asked;
+        wrongOfSentence = 0;
         if (!Document.says(section, words)) {
             tell("the document does not say so");
+        }
+        for (Part part : parts) {
+            int askedBefore = asked;
+            run(part);
+            if (asked == askedBefore) {
+                tell("nothing was asked about it");
+            }
+        }
+        named = "";
+        wrongOfSentence = 0;
+    }
+
+    /** An exception that is not due ends its part of the test, so that the sentences behind it are tested, too. */
+    private void run(Part part) {
+        try {
+            part.test(this);
+        } catch (RuntimeException | AssertionError e) {
+            tell("throws " + e + " at " + e.getStackTrace()[0]);
         }
     }
 
@@ -49,16 +94,9 @@ final class Expect {
     }
 
     void end() {
-        endSentence();
         System.out.println(wrong == 0 ? asked + " answers are as due" : wrong + " of " + asked + " are not as due");
         if (wrong != 0) {
             System.exit(1);
-        }
-    }
-
-    private void endSentence() {
-        if (asked == askedBeforeNamed) {
-            tell("nothing was asked about it");
         }
     }
 
@@ -73,7 +111,8 @@ final class Expect {
 
     private void tell(String text) {
         wrong++;
-        if (wrong <= 20) {
+        wrongOfSentence++;
+        if (wrongOfSentence <= MOST_TOLD) {
             System.out.println(named + text);
         }
     }

@@ -2,13 +2,14 @@
 public final class P01NewObjectTest {
     public static void main(String[] args) {
         Expect expect = new Expect();
-        sides(expect);
-        empty(expect);
+        expect.sentence("Promise 1", "w columns, h rows, 8 for either that is not an even number 4 .. 16;",
+                P01NewObjectTest::sides);
+        expect.sentence("Promise 1", "no particles, no edges.",
+                P01NewObjectTest::empty);
         expect.end();
     }
 
     private static void sides(Expect expect) {
-        expect.sentence("Promise 1", "w columns, h rows, 8 for either that is not an even number 4 .. 16;");
         int[] asked = {Integer.MIN_VALUE, -8, -4, -1, 0, 1, 2, 3, 4, 5, 6, 7, 8, 9, 10, 11, 12, 13, 14, 15, 16, 17, 18,
             20, 1 << 20, Integer.MAX_VALUE};
         for (int side : asked) {
@@ -32,7 +33,6 @@ public final class P01NewObjectTest {
     }
 
     private static void empty(Expect expect) {
-        expect.sentence("Promise 1", "no particles, no edges.");
         SixWayGas large = new SixWayGas(16, 16);
         for (int i = 0; i < 256; i++) {
             expect.equal("particles in " + Six.at(i % 16, i / 16), large.get(i % 16, i / 16), 0);

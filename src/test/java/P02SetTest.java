@@ -2,12 +2,10 @@
 public final class P02SetTest {
     public static void main(String[] args) {
         Expect expect = new Expect();
-        expect.sentence("Promise 2", "A cell gets bits.");
-        everyBitsInEveryCell(expect);
-        marksAreLost(expect);
-        edgesTakeBitsToo(expect);
-        expect.sentence("Promise 2", "IllegalArgumentException when they are not 0 .. 127.");
-        wrongCalls(expect);
+        expect.sentence("Promise 2", "A cell gets bits.",
+                P02SetTest::everyBitsInEveryCell, P02SetTest::marksAreLost, P02SetTest::edgesTakeBitsToo);
+        expect.sentence("Promise 2", "IllegalArgumentException when they are not 0 .. 127.",
+                P02SetTest::wrongCalls);
         expect.end();
     }
 

@@ -2,13 +2,10 @@
 public final class P04RuleTest {
     public static void main(String[] args) {
         Expect expect = new Expect();
-        SixWayGas gas = new SixWayGas(8, 8);
-        expect.sentence("Promise 4", "What THE RULE makes of bits.");
-        everyNamedCase(expect, gas);
-        everyBits(expect, gas);
-        changesNothing(expect);
-        expect.sentence("Promise 4", "IllegalArgumentException when bits are not 0 .. 127, or sense is not 0 or 1.");
-        wrongCalls(expect);
+        expect.sentence("Promise 4", "What THE RULE makes of bits.",
+                P04RuleTest::everyNamedCase, P04RuleTest::everyBits, P04RuleTest::changesNothing);
+        expect.sentence("Promise 4", "IllegalArgumentException when bits are not 0 .. 127, or sense is not 0 or 1.",
+                P04RuleTest::wrongCalls);
         expect.end();
     }
 
@@ -20,7 +17,8 @@ public final class P04RuleTest {
         return bits;
     }
 
-    private static void everyNamedCase(Expect expect, SixWayGas gas) {
+    private static void everyNamedCase(Expect expect) {
+        SixWayGas gas = new SixWayGas(8, 8);
         for (int rest = 0; rest <= 64; rest += 64) {
             for (int d = 0; d < 6; d++) {
                 int pair = kinds(d, d + 3);
@@ -52,7 +50,8 @@ public final class P04RuleTest {
         }
     }
 
-    private static void everyBits(Expect expect, SixWayGas gas) {
+    private static void everyBits(Expect expect) {
+        SixWayGas gas = new SixWayGas(8, 8);
         PlainGas plain = new PlainGas(8, 8);
         for (int sense = 0; sense < 2; sense++) {
             for (int bits = 0; bits < 128; bits++) {

@@ -2,16 +2,12 @@
 public final class P05WallTest {
     public static void main(String[] args) {
         Expect expect = new Expect();
-        EdgeSwitch edge = new EdgeSwitch(expect, "wall", 1, SixWayGas::wall);
-        expect.sentence("Promise 5", "A cell is a wall, or not any more: whether that is new.");
-        edge.onAndOff();
-        edge.refusedForNoCell();
-        bouncing(expect);
-        noMeeting(expect);
-        goneWall(expect);
-        firstAndLastCell(expect);
-        expect.sentence("Promise 5", "IllegalStateException when it is a source, a sink or one of the body.");
-        edge.refusedOnOtherEdges();
+        EdgeSwitch edge = new EdgeSwitch("wall", 1, SixWayGas::wall);
+        expect.sentence("Promise 5", "A cell is a wall, or not any more: whether that is new.",
+                edge::onAndOff, edge::refusedForNoCell, P05WallTest::bouncing, P05WallTest::noMeeting,
+                P05WallTest::goneWall, P05WallTest::firstAndLastCell);
+        expect.sentence("Promise 5", "IllegalStateException when it is a source, a sink or one of the body.",
+                edge::refusedOnOtherEdges);
         expect.end();
     }
 

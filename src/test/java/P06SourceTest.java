@@ -2,18 +2,18 @@
 public final class P06SourceTest {
     public static void main(String[] args) {
         Expect expect = new Expect();
-        expect.sentence("Promise 6", "A cell is a source with a rate, or none any more (rate 0).");
-        onAndOff(expect);
-        everyCell(expect);
-        NoCell.refusedEverywhere(expect, "source", (g, x, y) -> g.source(x, y, 256));
-        highestRate(expect);
-        byTheSeed(expect);
-        rowByRow(expect);
-        expect.sentence("Promise 6", "IllegalArgumentException when rate is not 0 .. 256;");
-        wrongRates(expect);
-        expect.sentence("Promise 6", "IllegalStateException when it is a wall, a sink or one of the body.");
-        otherEdges(expect);
+        expect.sentence("Promise 6", "A cell is a source with a rate, or none any more (rate 0).",
+                P06SourceTest::onAndOff, P06SourceTest::everyCell, P06SourceTest::noCell, P06SourceTest::highestRate,
+                P06SourceTest::byTheSeed, P06SourceTest::rowByRow);
+        expect.sentence("Promise 6", "IllegalArgumentException when rate is not 0 .. 256;",
+                P06SourceTest::wrongRates);
+        expect.sentence("Promise 6", "IllegalStateException when it is a wall, a sink or one of the body.",
+                P06SourceTest::otherEdges);
         expect.end();
+    }
+
+    private static void noCell(Expect expect) {
+        NoCell.refusedEverywhere(expect, "source", (g, x, y) -> g.source(x, y, 256));
     }
 
     /** From the first cell to the last one, with the lowest and the highest rate, and rate 0 again. */
@@ -41,10 +41,15 @@ public final class P06SourceTest {
         gas.source(1, 2, 0);
         expect.equal("none any more", gas.edge(1, 2), 0);
         expect.equal("it may be a wall now", gas.wall(1, 2, true), true);
-        gas.wall(1, 2, false);
-        gas.source(1, 2, 1);
-        gas.step(1);
-        expect.equal("the rate is the new one", gas.book(1, 0) < 7, true);
+        for (int rate : new int[] {1, 256}) {
+            SixWayGas again = new SixWayGas(8, 8);
+            again.source(1, 2, 257 - rate);
+            again.source(1, 2, rate);
+            // By this seed the first seven draws are all 1 or above.
+            again.seed(1);
+            again.step(1);
+            expect.equal("the rate is the new one, " + rate, again.book(1, 0), rate == 1 ? 0 : 7);
+        }
     }
 
     private static void highestRate(Expect expect) {

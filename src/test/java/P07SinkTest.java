@@ -2,14 +2,11 @@
 public final class P07SinkTest {
     public static void main(String[] args) {
         Expect expect = new Expect();
-        EdgeSwitch edge = new EdgeSwitch(expect, "sink", 3, SixWayGas::sink);
-        expect.sentence("Promise 7", "A cell is a sink, or not any more: whether that is new.");
-        edge.onAndOff();
-        edge.refusedForNoCell();
-        takesAll(expect);
-        meetsBefore(expect);
-        expect.sentence("Promise 7", "IllegalStateException when it is a wall, a source or one of the body.");
-        edge.refusedOnOtherEdges();
+        EdgeSwitch edge = new EdgeSwitch("sink", 3, SixWayGas::sink);
+        expect.sentence("Promise 7", "A cell is a sink, or not any more: whether that is new.",
+                edge::onAndOff, edge::refusedForNoCell, P07SinkTest::takesAll, P07SinkTest::meetsBefore);
+        expect.sentence("Promise 7", "IllegalStateException when it is a wall, a source or one of the body.",
+                edge::refusedOnOtherEdges);
         expect.end();
     }
 

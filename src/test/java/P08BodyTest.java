@@ -2,23 +2,14 @@
 public final class P08BodyTest {
     public static void main(String[] args) {
         Expect expect = new Expect();
-        EdgeSwitch edge = new EdgeSwitch(expect, "body", 4, SixWayGas::body);
-        expect.sentence("Promise 8", "A cell is one of the body, or not any more: whether that is new.");
-        edge.onAndOff();
-        edge.refusedForNoCell();
-        bouncing(expect);
-        moves(expect);
-        firstDirection(expect);
-        exchanges(expect);
-        exchangesRowByRow(expect);
-        stopped(expect);
-        ring(expect);
-        noCells(expect);
-        everyPush(expect);
-        firstCell(expect);
-        fourMarks(expect);
-        expect.sentence("Promise 8", "IllegalStateException when it is a wall, a source or a sink.");
-        edge.refusedOnOtherEdges();
+        EdgeSwitch edge = new EdgeSwitch("body", 4, SixWayGas::body);
+        expect.sentence("Promise 8", "A cell is one of the body, or not any more: whether that is new.",
+                edge::onAndOff, edge::refusedForNoCell, P08BodyTest::bouncing, P08BodyTest::moves,
+                P08BodyTest::firstDirection, P08BodyTest::exchanges, P08BodyTest::exchangesRowByRow,
+                P08BodyTest::stopped, P08BodyTest::ring, P08BodyTest::noCells, P08BodyTest::everyPush,
+                P08BodyTest::firstCell, P08BodyTest::fourMarks);
+        expect.sentence("Promise 8", "IllegalStateException when it is a wall, a source or a sink.",
+                edge::refusedOnOtherEdges);
         expect.end();
     }
 

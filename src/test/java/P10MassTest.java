@@ -2,18 +2,23 @@
 public final class P10MassTest {
     public static void main(String[] args) {
         Expect expect = new Expect();
-        expect.sentence("Promise 10", "The body's mass from now on.");
-        firstMass(expect);
-        fromNowOn(expect);
-        for (int mass : new int[] {1, 2, 7, 50, 10000}) {
-            thatMass(expect, mass);
-        }
-        expect.sentence("Promise 10", "IllegalArgumentException when it is not 1 .. 10000.");
-        lowestAndHighest(expect);
+        expect.sentence("Promise 10", "The body's mass from now on.",
+                P10MassTest::firstMass, P10MassTest::fromNowOn, P10MassTest::someMasses);
+        expect.sentence("Promise 10", "IllegalArgumentException when it is not 1 .. 10000.",
+                P10MassTest::lowestAndHighest, P10MassTest::wrongCalls);
+        expect.end();
+    }
+
+    private static void wrongCalls(Expect expect) {
         for (int mass : new int[] {0, -1, 10001, Integer.MIN_VALUE, Integer.MAX_VALUE}) {
             expect.refused("mass " + mass, IllegalArgumentException.class, Gases::busy, g -> g.mass(mass));
         }
-        expect.end();
+    }
+
+    private static void someMasses(Expect expect) {
+        for (int mass : new int[] {1, 2, 7, 50, 10000}) {
+            thatMass(expect, mass);
+        }
     }
 
     /** Pushes by 2 a step along 0, and tells how many steps it takes until the body moves. */

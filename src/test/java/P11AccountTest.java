@@ -2,23 +2,29 @@
 public final class P11AccountTest {
     public static void main(String[] args) {
         Expect expect = new Expect();
-        expect.sentence("Promise 11", "The body's account, the first or the second number (field 0, 1), or how often it moved "
-                + "(2).");
-        SixWayGas gas = new SixWayGas(8, 8);
-        for (int field = 0; field < 3; field++) {
-            expect.equal("at first", gas.account(field), 0);
-        }
-        everyKind(expect);
-        againstTheBook(expect);
-        wallsAreNotTheBody(expect);
-        expect.sentence("Promise 11", "IllegalArgumentException when field is none of these.");
+        expect.sentence("Promise 11", "The body's account, the first or the second number (field 0, 1), or how often "
+                + "it moved (2).",
+                P11AccountTest::atFirst, P11AccountTest::everyKind, P11AccountTest::againstTheBook,
+                P11AccountTest::wallsAreNotTheBody);
+        expect.sentence("Promise 11", "IllegalArgumentException when field is none of these.",
+                P11AccountTest::wrongCalls);
+        expect.end();
+    }
+
+    private static void wrongCalls(Expect expect) {
         for (int field = 0; field <= 2; field++) {
             expect.equal("field " + field + " is fine", new SixWayGas(4, 4).account(field), 0);
         }
         for (int field : new int[] {-1, 3, 4, Integer.MIN_VALUE, Integer.MAX_VALUE}) {
             expect.refused("account " + field, IllegalArgumentException.class, Gases::busy, g -> g.account(field));
         }
-        expect.end();
+    }
+
+    private static void atFirst(Expect expect) {
+        SixWayGas gas = new SixWayGas(8, 8);
+        for (int field = 0; field < 3; field++) {
+            expect.equal("at first", gas.account(field), 0);
+        }
     }
 
     private static void everyKind(Expect expect) {

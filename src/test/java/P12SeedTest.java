@@ -2,14 +2,17 @@
 public final class P12SeedTest {
     public static void main(String[] args) {
         Expect expect = new Expect();
-        expect.sentence("Promise 12", "The seed from now on (at first it is 0).");
+        expect.sentence("Promise 12", "The seed from now on (at first it is 0).",
+                P12SeedTest::someSeeds, P12SeedTest::onlyWithSources);
+        expect.end();
+    }
+
+    private static void someSeeds(Expect expect) {
         expect.equal("at first it is 0", after(false, 0, 1), after(true, 0, 1));
         for (int seed : new int[] {0, 1, 2, 77, -5, Integer.MIN_VALUE, Integer.MAX_VALUE}) {
             expect.equal("seed " + seed, after(true, seed, 1), due(seed, 1));
             expect.equal("seed " + seed + ", second step", after(true, seed, 2), due(seed, 2));
         }
-        onlyWithSources(expect);
-        expect.end();
     }
 
     /** The bits a source of rate 60 has that is emptied before each step. */

@@ -2,19 +2,19 @@
 public final class P13StepTest {
     public static void main(String[] args) {
         Expect expect = new Expect();
-        expect.sentence("Promise 13", "Makes n steps: the time then.");
-        time(expect);
-        flight(expect);
-        senses(expect);
-        order(expect);
-        balance(expect);
-        expect.sentence("Promise 13", "IllegalArgumentException when n is not 0 .. 64.");
+        expect.sentence("Promise 13", "Makes n steps: the time then.",
+                P13StepTest::time, P13StepTest::flight, P13StepTest::senses, P13StepTest::order, P13StepTest::balance);
+        expect.sentence("Promise 13", "IllegalArgumentException when n is not 0 .. 64.",
+                P13StepTest::wrongCalls);
+        expect.end();
+    }
+
+    private static void wrongCalls(Expect expect) {
         expect.equal("0 is fine", new SixWayGas(4, 4).step(0), 0);
         expect.equal("64 is fine", new SixWayGas(4, 4).step(64), 64);
         for (int n : new int[] {-1, 65, Integer.MIN_VALUE, Integer.MAX_VALUE}) {
             expect.refused("step " + n, IllegalArgumentException.class, Gases::busy, g -> g.step(n));
         }
-        expect.end();
     }
 
     private static void time(Expect expect) {

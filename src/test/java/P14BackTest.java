@@ -2,17 +2,14 @@
 public final class P14BackTest {
     public static void main(String[] args) {
         Expect expect = new Expect();
-        expect.sentence("Promise 14", "Takes n steps back: the time then.");
-        thereAndBack(expect);
-        belowZero(expect);
-        everyBits(expect);
-        withTheWallsOfNow(expect);
-        marks(expect);
-        otherBooksStay(expect);
-        expect.sentence("Promise 14", "IllegalArgumentException when n is not 0 .. 64;");
-        wrongNumbers(expect);
-        expect.sentence("Promise 14", "UnsupportedOperationException when there is a source, a sink or a cell of the body.");
-        otherEdges(expect);
+        expect.sentence("Promise 14", "Takes n steps back: the time then.",
+                P14BackTest::thereAndBack, P14BackTest::belowZero, P14BackTest::everyBits,
+                P14BackTest::withTheWallsOfNow, P14BackTest::marks, P14BackTest::otherBooksStay);
+        expect.sentence("Promise 14", "IllegalArgumentException when n is not 0 .. 64;",
+                P14BackTest::wrongNumbers);
+        expect.sentence("Promise 14", "UnsupportedOperationException when there is a source, a sink or a cell of the "
+                + "body.",
+                P14BackTest::otherEdges);
         expect.end();
     }
 

@@ -2,17 +2,14 @@
 public final class P15SumTest {
     public static void main(String[] args) {
         Expect expect = new Expect();
-        expect.sentence("Promise 15", "Of all particles in the cells of a rectangle, columns x .. x + w - 1 and rows y .. y + h "
-                + "- 1 (no column or row twice around): how many (field 0), or their momentum (1, 2).");
-        everyBits(expect);
-        everyRectangle(expect);
-        emptyAndFull(expect);
-        expect.sentence("Promise 15", "IndexOutOfBoundsException when (x, y), or the last cell, is none, or w or h is not above "
-                + "0;");
-        wrongPlaces(expect);
-        justInside(expect);
-        expect.sentence("Promise 15", "IllegalArgumentException when field is none of these.");
-        wrongFields(expect);
+        expect.sentence("Promise 15", "Of all particles in the cells of a rectangle, columns x .. x + w - 1 and rows "
+                + "y .. y + h - 1 (no column or row twice around): how many (field 0), or their momentum (1, 2).",
+                P15SumTest::everyBits, P15SumTest::everyRectangle, P15SumTest::emptyAndFull);
+        expect.sentence("Promise 15", "IndexOutOfBoundsException when (x, y), or the last cell, is none, or w or h "
+                + "is not above 0;",
+                P15SumTest::wrongPlaces, P15SumTest::justInside);
+        expect.sentence("Promise 15", "IllegalArgumentException when field is none of these.",
+                P15SumTest::wrongFields);
         expect.end();
     }
 

@@ -2,13 +2,11 @@
 public final class P16BookTest {
     public static void main(String[] args) {
         Expect expect = new Expect();
-        expect.sentence("Promise 16", "What walls, sources, sinks or the body (kind 0 .. 3) gave: particles (field 0), or "
-                + "momentum (1, 2).");
-        eachInItsOwn(expect);
-        addedUp(expect);
-        keptWhenEdgesGo(expect);
-        expect.sentence("Promise 16", "IllegalArgumentException when kind or field is none of these.");
-        wrongCalls(expect);
+        expect.sentence("Promise 16", "What walls, sources, sinks or the body (kind 0 .. 3) gave: particles (field "
+                + "0), or momentum (1, 2).",
+                P16BookTest::eachInItsOwn, P16BookTest::addedUp, P16BookTest::keptWhenEdgesGo);
+        expect.sentence("Promise 16", "IllegalArgumentException when kind or field is none of these.",
+                P16BookTest::wrongCalls);
         expect.end();
     }
 

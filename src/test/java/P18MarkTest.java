@@ -4,20 +4,25 @@ import java.util.NoSuchElementException;
 public final class P18MarkTest {
     public static void main(String[] args) {
         Expect expect = new Expect();
-        expect.sentence("Promise 18", "Marks a particle: the mark's number.");
-        numbers(expect);
-        everyKind(expect);
-        NoCell.refusedEverywhere(expect, "mark", (g, x, y) -> g.mark(x, y, 0));
-        expect.sentence("Promise 18", "IllegalArgumentException when kind is not 0 .. 6;");
-        wrongKinds(expect);
-        expect.sentence("Promise 18", "NoSuchElementException when the cell has no such particle;");
-        noSuchParticle(expect);
-        expect.sentence("Promise 18", "IllegalStateException when it has a mark already;");
-        markedAlready(expect);
-        expect.sentence("Promise 18", "UnsupportedOperationException when there are four marks (lost ones, too).");
-        expect.refused("four marks", UnsupportedOperationException.class, P18MarkTest::four, g -> g.mark(1, 1, 4));
-        lostOnesCount(expect);
+        expect.sentence("Promise 18", "Marks a particle: the mark's number.",
+                P18MarkTest::numbers, P18MarkTest::everyKind, P18MarkTest::noCell);
+        expect.sentence("Promise 18", "IllegalArgumentException when kind is not 0 .. 6;",
+                P18MarkTest::wrongKinds);
+        expect.sentence("Promise 18", "NoSuchElementException when the cell has no such particle;",
+                P18MarkTest::noSuchParticle);
+        expect.sentence("Promise 18", "IllegalStateException when it has a mark already;",
+                P18MarkTest::markedAlready);
+        expect.sentence("Promise 18", "UnsupportedOperationException when there are four marks (lost ones, too).",
+                P18MarkTest::fourMarks, P18MarkTest::lostOnesCount);
         expect.end();
+    }
+
+    private static void fourMarks(Expect expect) {
+        expect.refused("four marks", UnsupportedOperationException.class, P18MarkTest::four, g -> g.mark(1, 1, 4));
+    }
+
+    private static void noCell(Expect expect) {
+        NoCell.refusedEverywhere(expect, "mark", (g, x, y) -> g.mark(x, y, 0));
     }
 
     private static void numbers(Expect expect) {

@@ -2,13 +2,11 @@
 public final class P19MarkedTest {
     public static void main(String[] args) {
         Expect expect = new Expect();
-        expect.sentence("Promise 19", "Where a mark's particle is: 128 * y + 8 * x + its kind; NONE when it is lost.");
-        firstAndLastPlace(expect);
-        flight(expect);
-        everyMeeting(expect);
-        edges(expect);
-        expect.sentence("Promise 19", "IndexOutOfBoundsException when there is no such mark.");
-        wrongCalls(expect);
+        expect.sentence("Promise 19", "Where a mark's particle is: 128 * y + 8 * x + its kind; NONE when it is lost.",
+                P19MarkedTest::firstAndLastPlace, P19MarkedTest::flight, P19MarkedTest::everyMeeting,
+                P19MarkedTest::edges);
+        expect.sentence("Promise 19", "IndexOutOfBoundsException when there is no such mark.",
+                P19MarkedTest::wrongCalls);
         expect.end();
     }
 

@@ -4,19 +4,17 @@ public final class TermsBackTest {
 
     public static void main(String[] args) {
         Expect expect = new Expect();
-        expect.sentence("Terms", "TO TAKE A STEP BACK is to make everything as it was before it, if it was made with the walls "
-                + "that there are now: time becomes one less;");
-        everythingAsItWas(expect);
-        otherWalls(expect);
-        time(expect);
-        expect.sentence("Terms", "walls as in EDGES;");
-        onlyWalls(expect);
-        expect.sentence("Terms", "each particle goes to the cell from which flight would bring it there;");
-        flightBack(expect);
-        expect.sentence("Terms", "and bits that are no wall's become those which the rule would make what they are.");
-        meetingBack(expect);
-        expect.sentence("Terms", "The walls' book becomes what it was.");
-        bookBack(expect);
+        expect.sentence("Terms", "TO TAKE A STEP BACK is to make everything as it was before it, if it was made with "
+                + "the walls that there are now: time becomes one less;",
+                TermsBackTest::everythingAsItWas, TermsBackTest::otherWalls, TermsBackTest::time);
+        expect.sentence("Terms", "walls as in EDGES;",
+                TermsBackTest::onlyWalls);
+        expect.sentence("Terms", "each particle goes to the cell from which flight would bring it there;",
+                TermsBackTest::flightBack);
+        expect.sentence("Terms", "and bits that are no wall's become those which the rule would make what they are.",
+                TermsBackTest::meetingBack);
+        expect.sentence("Terms", "The walls' book becomes what it was.",
+                TermsBackTest::bookBack);
         expect.end();
     }
 

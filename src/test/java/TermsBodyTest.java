@@ -2,28 +2,26 @@
 public final class TermsBodyTest {
     public static void main(String[] args) {
         Expect expect = new Expect();
-        masses(expect);
-        along(expect);
-        expect.sentence("Terms", "It moves by the first direction along which its account is twice the mass or more (if there "
-                + "is none, or it has no cells, it does not move):");
-        twiceTheMass(expect);
-        oneLess(expect);
-        noCells(expect);
-        expect.sentence("Terms", "if the neighbour by d of one of its cells is a wall, source or sink, it does not move.");
-        stopped(expect);
-        stoppedByOneOfMany(expect);
-        noOtherDirection(expect);
-        expect.sentence("Terms", "Else the neighbours by d of all its cells are the body's cells from now on, and no others;");
-        aroundTheGrid(expect);
-        wholeRow(expect);
-        wholeGrid(expect);
-        expect.sentence("Terms", "of the cells that became the body's, and those that are not any more (there are as many), "
-                + "the first of the former and the first of the latter, row by row, change all their particles, and so on with "
-                + "the second ones;");
-        exchangeAroundTheGrid(expect);
-        exchangeFullAndEmpty(expect);
-        expect.sentence("Terms", "and the account loses mass * the momentum of kind d.");
-        loses(expect);
+        expect.sentence("Terms", "THE BODY has a MASS, 1 .. 10000, at first 100.",
+                TermsBodyTest::masses);
+        expect.sentence("Terms", "ALONG direction d the account (p, q) is 2 * p + q, p + 2 * q, q - p, -2 * p - q, "
+                + "-p - 2 * q, p - q for d = 0 .. 5.",
+                TermsBodyTest::along);
+        expect.sentence("Terms", "It moves by the first direction along which its account is twice the mass or more "
+                + "(if there is none, or it has no cells, it does not move):",
+                TermsBodyTest::twiceTheMass, TermsBodyTest::oneLess, TermsBodyTest::noCells);
+        expect.sentence("Terms", "if the neighbour by d of one of its cells is a wall, source or sink, it does not "
+                + "move.",
+                TermsBodyTest::stopped, TermsBodyTest::stoppedByOneOfMany, TermsBodyTest::noOtherDirection);
+        expect.sentence("Terms", "Else the neighbours by d of all its cells are the body's cells from now on, and no "
+                + "others;",
+                TermsBodyTest::aroundTheGrid, TermsBodyTest::wholeRow, TermsBodyTest::wholeGrid);
+        expect.sentence("Terms", "of the cells that became the body's, and those that are not any more (there are as "
+                + "many), the first of the former and the first of the latter, row by row, change all their "
+                + "particles, and so on with the second ones;",
+                TermsBodyTest::exchangeAroundTheGrid, TermsBodyTest::exchangeFullAndEmpty);
+        expect.sentence("Terms", "and the account loses mass * the momentum of kind d.",
+                TermsBodyTest::loses);
         expect.end();
     }
 
@@ -49,7 +47,6 @@ public final class TermsBodyTest {
     }
 
     private static void masses(Expect expect) {
-        expect.sentence("Terms", "THE BODY has a MASS, 1 .. 10000, at first 100.");
         SixWayGas gas = pushedColumn(1);
         gas.step(64);
         gas.step(34);
@@ -79,8 +76,6 @@ public final class TermsBodyTest {
 
     /** Every push by each set of kinds, the mass being half of what it is along a direction, or a little more. */
     private static void along(Expect expect) {
-        expect.sentence("Terms", "ALONG direction d the account (p, q) is 2 * p + q, p + 2 * q, q - p, -2 * p - q, -p - 2 * q, "
-                + "p - q for d = 0 .. 5.");
         for (int set = 0; set < 64; set++) {
             for (int mass = 1; mass <= 9; mass++) {
                 pushedBy(expect, set, mass);

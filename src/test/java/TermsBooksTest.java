@@ -2,16 +2,15 @@
 public final class TermsBooksTest {
     public static void main(String[] args) {
         Expect expect = new Expect();
-        expect.sentence("Terms", "BOOKS: walls, sources, sinks and the body (0, 1, 2, 3) have each three numbers, at first 0: "
-                + "how many particles, and how much momentum (both numbers of it), they GAVE: what all particles of the grid "
-                + "have behind it, less what they had before, added up over all edges of that sort.");
-        atFirst(expect);
-        nothingGiven(expect);
-        oneOfEachKind(expect);
-        allCells(expect);
-        everyStepBalances(expect);
-        expect.sentence("Terms", "The body's ACCOUNT is what it got: two numbers, at first 0, that get less what it gives.");
-        account(expect);
+        expect.sentence("Terms", "BOOKS: walls, sources, sinks and the body (0, 1, 2, 3) have each three numbers, at "
+                + "first 0: how many particles, and how much momentum (both numbers of it), they GAVE: what all "
+                + "particles of the grid have behind it, less what they had before, added up over all edges of that "
+                + "sort.",
+                TermsBooksTest::atFirst, TermsBooksTest::nothingGiven, TermsBooksTest::oneOfEachKind,
+                TermsBooksTest::allCells, TermsBooksTest::everyStepBalances);
+        expect.sentence("Terms", "The body's ACCOUNT is what it got: two numbers, at first 0, that get less what it "
+                + "gives.",
+                TermsBooksTest::account);
         expect.end();
     }
 

@@ -2,21 +2,21 @@
 public final class TermsEdgeStepTest {
     public static void main(String[] args) {
         Expect expect = new Expect();
-        bounced(expect);
-        drained(expect);
-        expect.sentence("Terms", "A SOURCE: for each kind 0, 1, .. 6 the seed becomes seed * 1103515245 + 12345 (an int, "
-                + "wrapping); if (seed >>> 16) & 255 is less than the rate, and it has no such particle, it gets one.");
-        lessThanTheRate(expect);
-        wrappingSeeds(expect);
-        rowByRow(expect);
-        hasOneAlready(expect);
+        expect.sentence("Terms", "EDGES, for the cells row by row: in a WALL or cell of the BODY each particle of a "
+                + "kind k of 0 .. 5 becomes one of kind k + 3.",
+                TermsEdgeStepTest::bounced);
+        expect.sentence("Terms", "A SINK loses all its particles.",
+                TermsEdgeStepTest::drained);
+        expect.sentence("Terms", "A SOURCE: for each kind 0, 1, .. 6 the seed becomes seed * 1103515245 + 12345 (an "
+                + "int, wrapping); if (seed >>> 16) & 255 is less than the rate, and it has no such particle, it "
+                + "gets one.",
+                TermsEdgeStepTest::lessThanTheRate, TermsEdgeStepTest::wrappingSeeds, TermsEdgeStepTest::rowByRow,
+                TermsEdgeStepTest::hasOneAlready);
         expect.end();
     }
 
     /** A grid of the one edge full of the same bits: each cell gets these bits by flight, and turns them. */
     private static void bounced(Expect expect) {
-        expect.sentence("Terms", "EDGES, for the cells row by row: in a WALL or cell of the BODY each particle of a kind k of "
-                + "0 .. 5 becomes one of kind k + 3.");
         for (int sort = 1; sort <= 4; sort += 3) {
             for (int bits = 0; bits <= 127; bits++) {
                 SixWayGas gas = Gases.filled(4, 4, bits);
@@ -55,7 +55,6 @@ public final class TermsEdgeStepTest {
     }
 
     private static void drained(Expect expect) {
-        expect.sentence("Terms", "A SINK loses all its particles.");
         for (int bits : new int[] {0, 1, 32, 64, 127}) {
             for (int at = 0; at <= 3; at += 3) {
                 SixWayGas gas = Gases.filled(4, 4, bits);

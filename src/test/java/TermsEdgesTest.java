@@ -2,14 +2,12 @@
 public final class TermsEdgesTest {
     public static void main(String[] args) {
         Expect expect = new Expect();
-        expect.sentence("Terms", "A cell may be a WALL, a SOURCE with a RATE (1 .. 256), a SINK, or one of the BODY, and is "
-                + "at most one of these, at first none.");
-        atFirstNone(expect);
-        atMostOne(expect);
-        everyCell(expect);
-        rates(expect);
-        expect.sentence("Terms", "TIME is an int, at first 0.");
-        time(expect);
+        expect.sentence("Terms", "A cell may be a WALL, a SOURCE with a RATE (1 .. 256), a SINK, or one of the BODY, "
+                + "and is at most one of these, at first none.",
+                TermsEdgesTest::atFirstNone, TermsEdgesTest::atMostOne, TermsEdgesTest::everyCell,
+                TermsEdgesTest::rates);
+        expect.sentence("Terms", "TIME is an int, at first 0.",
+                TermsEdgesTest::time);
         expect.end();
     }
 

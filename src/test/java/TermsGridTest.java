@@ -4,18 +4,21 @@ public final class TermsGridTest {
 
     public static void main(String[] args) {
         Expect expect = new Expect();
-        cells(expect);
-        directions(expect);
-        neighboursInside(expect);
-        aroundTheSmallest(expect);
-        aroundEverySize(expect);
-        wholeRounds(expect);
+        expect.sentence("Terms", "THE GRID has w columns and h rows; CELL (x, y) is in column x (0 .. w - 1) and row "
+                + "y (0 .. h - 1).",
+                TermsGridTest::cells);
+        expect.sentence("Terms", "DIRECTIONS are 0 .. 5.",
+                TermsGridTest::directions);
+        expect.sentence("Terms", "The NEIGHBOUR of (x, y) by direction 0 is (x + 1, y), by 3 (x - 1, y); by 1 and 2 "
+                + "it is in row y - 1, by 5 and 4 in row y + 1, and there, if y is even, in column x by 1 and 5 and "
+                + "x - 1 by 2 and 4, if y is odd in column x + 1 by 1 and 5 and x by 2 and 4.",
+                TermsGridTest::neighboursInside);
+        expect.sentence("Terms", "Column w is column 0, column -1 is w - 1, and rows likewise.",
+                TermsGridTest::aroundTheSmallest, TermsGridTest::aroundEverySize, TermsGridTest::wholeRounds);
         expect.end();
     }
 
     private static void cells(Expect expect) {
-        expect.sentence("Terms", "THE GRID has w columns and h rows; CELL (x, y) is in column x (0 .. w - 1) and row y "
-                + "(0 .. h - 1).");
         for (int[] size : SIZES) {
             int w = size[0];
             int h = size[1];
@@ -43,7 +46,6 @@ public final class TermsGridTest {
     }
 
     private static void directions(Expect expect) {
-        expect.sentence("Terms", "DIRECTIONS are 0 .. 5.");
         for (int kind = 0; kind <= 6; kind++) {
             SixWayGas gas = new SixWayGas(8, 8);
             gas.set(2, 2, 1 << kind);
@@ -54,15 +56,11 @@ public final class TermsGridTest {
     }
 
     private static void neighboursInside(Expect expect) {
-        expect.sentence("Terms", "The NEIGHBOUR of (x, y) by direction 0 is (x + 1, y), by 3 (x - 1, y); by 1 and 2 it is "
-                + "in row y - 1, by 5 and 4 in row y + 1, and there, if y is even, in column x by 1 and 5 and x - 1 by 2 and "
-                + "4, if y is odd in column x + 1 by 1 and 5 and x by 2 and 4.");
         fliesTo(expect, 8, 8, new int[] {2, 2}, new int[][] {{3, 2}, {2, 1}, {1, 1}, {1, 2}, {1, 3}, {2, 3}});
         fliesTo(expect, 8, 8, new int[] {2, 3}, new int[][] {{3, 3}, {3, 2}, {2, 2}, {1, 3}, {2, 4}, {3, 4}});
     }
 
     private static void aroundTheSmallest(Expect expect) {
-        expect.sentence("Terms", "Column w is column 0, column -1 is w - 1, and rows likewise.");
         fliesTo(expect, 4, 4, new int[] {0, 0}, new int[][] {{1, 0}, {0, 3}, {3, 3}, {3, 0}, {3, 1}, {0, 1}});
         fliesTo(expect, 4, 4, new int[] {3, 0}, new int[][] {{0, 0}, {3, 3}, {2, 3}, {2, 0}, {2, 1}, {3, 1}});
         fliesTo(expect, 4, 4, new int[] {0, 3}, new int[][] {{1, 3}, {1, 2}, {0, 2}, {3, 3}, {0, 0}, {1, 0}});

@@ -4,15 +4,19 @@ import java.util.NoSuchElementException;
 public final class TermsKindsTest {
     public static void main(String[] args) {
         Expect expect = new Expect();
-        atMostOne(expect);
-        flyingAndResting(expect);
-        bits(expect);
-        momentum(expect);
+        expect.sentence("Terms", "A cell has at most one particle of each KIND 0 .. 6:",
+                TermsKindsTest::atMostOne);
+        expect.sentence("Terms", "those of the kinds 0 .. 5 fly in these directions, that of kind 6 RESTS.",
+                TermsKindsTest::flyingAndResting);
+        expect.sentence("Terms", "Its BITS are the sum of 1 << kind.",
+                TermsKindsTest::bits);
+        expect.sentence("Terms", "The MOMENTUM of a particle are two numbers: (1, 0), (0, 1), (-1, 1), (-1, 0), (0, "
+                + "-1), (1, -1) for the kinds 0 .. 5, (0, 0) for kind 6.",
+                TermsKindsTest::momentum);
         expect.end();
     }
 
     private static void atMostOne(Expect expect) {
-        expect.sentence("Terms", "A cell has at most one particle of each KIND 0 .. 6:");
         SixWayGas gas = Gases.filled(4, 4, 127);
         expect.equal("seven in a full cell", gas.sum(3, 3, 1, 1, 0), 7);
         gas.source(0, 0, 256);
@@ -28,7 +32,6 @@ public final class TermsKindsTest {
     }
 
     private static void flyingAndResting(Expect expect) {
-        expect.sentence("Terms", "those of the kinds 0 .. 5 fly in these directions, that of kind 6 RESTS.");
         int[][] to = {{3, 2}, {2, 1}, {1, 1}, {1, 2}, {1, 3}, {2, 3}, {2, 2}};
         SixWayGas gas = new SixWayGas(8, 8);
         gas.set(2, 2, 127);
@@ -39,7 +42,6 @@ public final class TermsKindsTest {
     }
 
     private static void bits(Expect expect) {
-        expect.sentence("Terms", "Its BITS are the sum of 1 << kind.");
         for (int bits = 0; bits <= 127; bits++) {
             for (int kind = 0; kind <= 6; kind++) {
                 SixWayGas gas = new SixWayGas(4, 4);
@@ -60,8 +62,6 @@ public final class TermsKindsTest {
     }
 
     private static void momentum(Expect expect) {
-        expect.sentence("Terms", "The MOMENTUM of a particle are two numbers: (1, 0), (0, 1), (-1, 1), (-1, 0), (0, -1), "
-                + "(1, -1) for the kinds 0 .. 5, (0, 0) for kind 6.");
         int[][] due = {{1, 0}, {0, 1}, {-1, 1}, {-1, 0}, {0, -1}, {1, -1}, {0, 0}};
         for (int kind = 0; kind <= 6; kind++) {
             SixWayGas gas = new SixWayGas(4, 4);

@@ -2,21 +2,21 @@
 public final class TermsMarksTest {
     public static void main(String[] args) {
         Expect expect = new Expect();
-        atMostFour(expect);
-        expect.sentence("Terms", "It stays with the particle by flight, edges and exchange.");
-        flight(expect);
-        edges(expect);
-        exchange(expect);
-        meeting(expect);
-        expect.sentence("Terms", "When a sink, or set(), takes its particle's place (for set: the cell has other or the same "
-                + "bits), it is lost.");
-        lostBySink(expect);
-        lostBySet(expect);
+        expect.sentence("Terms", "MARKS are 0, 1, .. , at most four; a mark is on a particle, or LOST.",
+                TermsMarksTest::atMostFour);
+        expect.sentence("Terms", "It stays with the particle by flight, edges and exchange.",
+                TermsMarksTest::flight, TermsMarksTest::edges, TermsMarksTest::exchange);
+        expect.sentence("Terms", "In meeting, if bits change: the particles before and after (as many) are taken in "
+                + "order of their kinds, and the mark on the k-th one before is on the k-th one after (the other way "
+                + "round when a step is taken back).",
+                TermsMarksTest::meeting);
+        expect.sentence("Terms", "When a sink, or set(), takes its particle's place (for set: the cell has other or "
+                + "the same bits), it is lost.",
+                TermsMarksTest::lostBySink, TermsMarksTest::lostBySet);
         expect.end();
     }
 
     private static void atMostFour(Expect expect) {
-        expect.sentence("Terms", "MARKS are 0, 1, .. , at most four; a mark is on a particle, or LOST.");
         SixWayGas gas = new SixWayGas(16, 16);
         gas.set(15, 15, 127);
         for (int mark = 0; mark <= 3; mark++) {
@@ -116,9 +116,6 @@ public final class TermsMarksTest {
     }
 
     private static void meeting(Expect expect) {
-        expect.sentence("Terms", "In meeting, if bits change: the particles before and after (as many) are taken in order of "
-                + "their kinds, and the mark on the k-th one before is on the k-th one after (the other way round when a step "
-                + "is taken back).");
         for (int time = 0; time <= 1; time++) {
             for (int bits = 1; bits <= 127; bits++) {
                 for (int k = 0; k < Integer.bitCount(bits); k++) {

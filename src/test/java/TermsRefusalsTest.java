@@ -18,13 +18,12 @@ public final class TermsRefusalsTest {
     public static void main(String[] args) {
         Expect expect = new Expect();
         TermsRefusalsTest test = new TermsRefusalsTest(expect);
-        expect.sentence("Terms", "A call that throws changes nothing;");
-        test.oneFits();
-        expect.sentence("Terms", "where several exceptions that a call names fit, it is the one that it names first.");
-        test.severalFit();
-        test.severalFitMark();
-        expect.sentence("Terms", "All calls for a cell that is none are refused with IndexOutOfBoundsException.");
-        test.noCell();
+        expect.sentence("Terms", "A call that throws changes nothing;",
+                e -> test.oneFits());
+        expect.sentence("Terms", "where several exceptions that a call names fit, it is the one that it names first.",
+                e -> test.severalFit(), e -> test.severalFitMark());
+        expect.sentence("Terms", "All calls for a cell that is none are refused with IndexOutOfBoundsException.",
+                e -> test.noCell());
         expect.end();
     }
 

@@ -8,19 +8,26 @@ public final class TermsRuleTest {
 
     public static void main(String[] args) {
         Expect expect = new Expect();
-        SixWayGas gas = new SixWayGas(4, 4);
-        modulo(expect, gas);
-        pairs(expect, gas);
-        triples(expect, gas);
-        oneAndRest(expect, gas);
-        sides(expect, gas);
-        others(expect);
+        expect.sentence("Terms", "THE RULE says for bits and a SENSE (0 or 1) what they become; kinds + 1 and so on "
+                + "are meant modulo 6, FLYING are the kinds 0 .. 5:",
+                TermsRuleTest::modulo);
+        expect.sentence("Terms", "flying are just d and d + 3, or all but d and d + 3: each flying kind k becomes k "
+                + "+ 1 (sense 0) or k - 1 (sense 1); kind 6 stays.",
+                TermsRuleTest::pairs);
+        expect.sentence("Terms", "flying are just 0, 2 and 4, or just 1, 3 and 5: these become the others; kind 6 "
+                + "stays.",
+                TermsRuleTest::triples);
+        expect.sentence("Terms", "flying is just d, and kind 6 is there: they become d - 1 and d + 1, without kind 6.",
+                TermsRuleTest::oneAndRest);
+        expect.sentence("Terms", "Flying are just d - 1 and d + 1, and kind 6 is not there: they become d and kind 6.",
+                TermsRuleTest::sides);
+        expect.sentence("Terms", "All other bits stay.",
+                TermsRuleTest::others);
         expect.end();
     }
 
-    private static void modulo(Expect expect, SixWayGas gas) {
-        expect.sentence("Terms", "THE RULE says for bits and a SENSE (0 or 1) what they become; kinds + 1 and so on are meant "
-                + "modulo 6, FLYING are the kinds 0 .. 5:");
+    private static void modulo(Expect expect) {
+        SixWayGas gas = new SixWayGas(4, 4);
         expect.equal("2 and 5, sense 0: 5 becomes 0", gas.rule(36, 0), 9);
         expect.equal("0 and 3, sense 1: 0 becomes 5", gas.rule(9, 1), 36);
         expect.equal("0 and 6 become 5 and 1", gas.rule(65, 0), 34);
@@ -32,9 +39,8 @@ public final class TermsRuleTest {
         }
     }
 
-    private static void pairs(Expect expect, SixWayGas gas) {
-        expect.sentence("Terms", "flying are just d and d + 3, or all but d and d + 3: each flying kind k becomes k + 1 (sense "
-                + "0) or k - 1 (sense 1); kind 6 stays.");
+    private static void pairs(Expect expect) {
+        SixWayGas gas = new SixWayGas(4, 4);
         for (int d = 0; d < 3; d++) {
             for (int rest = 0; rest <= 64; rest += 64) {
                 String what = d + " and " + (d + 3) + (rest > 0 ? " and 6" : "");
@@ -46,8 +52,8 @@ public final class TermsRuleTest {
         }
     }
 
-    private static void triples(Expect expect, SixWayGas gas) {
-        expect.sentence("Terms", "flying are just 0, 2 and 4, or just 1, 3 and 5: these become the others; kind 6 stays.");
+    private static void triples(Expect expect) {
+        SixWayGas gas = new SixWayGas(4, 4);
         for (int sense = 0; sense <= 1; sense++) {
             expect.equal("0, 2 and 4, sense " + sense, gas.rule(21, sense), 42);
             expect.equal("1, 3 and 5, sense " + sense, gas.rule(42, sense), 21);
@@ -56,8 +62,8 @@ public final class TermsRuleTest {
         }
     }
 
-    private static void oneAndRest(Expect expect, SixWayGas gas) {
-        expect.sentence("Terms", "flying is just d, and kind 6 is there: they become d - 1 and d + 1, without kind 6.");
+    private static void oneAndRest(Expect expect) {
+        SixWayGas gas = new SixWayGas(4, 4);
         for (int d = 0; d < 6; d++) {
             for (int sense = 0; sense <= 1; sense++) {
                 expect.equal(d + " and 6, sense " + sense, gas.rule(ONES[d] | 64, sense), SIDES[d]);
@@ -66,8 +72,8 @@ public final class TermsRuleTest {
         }
     }
 
-    private static void sides(Expect expect, SixWayGas gas) {
-        expect.sentence("Terms", "Flying are just d - 1 and d + 1, and kind 6 is not there: they become d and kind 6.");
+    private static void sides(Expect expect) {
+        SixWayGas gas = new SixWayGas(4, 4);
         for (int d = 0; d < 6; d++) {
             for (int sense = 0; sense <= 1; sense++) {
                 expect.equal("beside " + d + ", sense " + sense, gas.rule(SIDES[d], sense), ONES[d] | 64);
@@ -92,7 +98,6 @@ public final class TermsRuleTest {
     }
 
     private static void others(Expect expect) {
-        expect.sentence("Terms", "All other bits stay.");
         SixWayGas gas = new SixWayGas(4, 4);
         int staying = 0;
         for (int bits = 0; bits <= 127; bits++) {

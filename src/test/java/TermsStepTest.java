@@ -2,22 +2,20 @@
 public final class TermsStepTest {
     public static void main(String[] args) {
         Expect expect = new Expect();
-        order(expect);
-        expect.sentence("Terms", "MEETING: the bits of each cell that is neither wall nor of the body become what the rule "
-                + "says, the sense being the lowest bit of x + y + time.");
-        senses(expect);
-        whoMeets(expect);
-        expect.sentence("Terms", "FLIGHT: each particle of a kind 0 .. 5 goes to the neighbour by its kind, all at once.");
-        crossing(expect);
-        wholeRows(expect);
-        emptyAndFull(expect);
-        expect.sentence("Terms", "THE BODY'S MOVE, and at last time becomes one more.");
-        moveAndTime(expect);
+        expect.sentence("Terms", "A STEP is, one behind the other:",
+                TermsStepTest::order);
+        expect.sentence("Terms", "MEETING: the bits of each cell that is neither wall nor of the body become what "
+                + "the rule says, the sense being the lowest bit of x + y + time.",
+                TermsStepTest::senses, TermsStepTest::whoMeets);
+        expect.sentence("Terms", "FLIGHT: each particle of a kind 0 .. 5 goes to the neighbour by its kind, all at "
+                + "once.",
+                TermsStepTest::crossing, TermsStepTest::wholeRows, TermsStepTest::emptyAndFull);
+        expect.sentence("Terms", "THE BODY'S MOVE, and at last time becomes one more.",
+                TermsStepTest::moveAndTime);
         expect.end();
     }
 
     private static void order(Expect expect) {
-        expect.sentence("Terms", "A STEP is, one behind the other:");
         SixWayGas gas = new SixWayGas(8, 8);
         gas.set(1, 2, 1);
         gas.set(3, 2, 8);
