@@ -2,10 +2,15 @@ import java.io.IOException;
 import java.io.UncheckedIOException;
 import java.nio.file.Files;
 import java.nio.file.Path;
+import java.util.ArrayList;
 import java.util.LinkedHashMap;
+import java.util.List;
 import java.util.Map;
 
-/** The document's sections "Terms" and "Promise 1" .. "Promise 19", each as one line of text. */
+/**
+ * The document's sections that say what holds: "What it is", "Terms" and "Promise 1" .. "Promise 19", each as one line
+ * of text; and the lines of "The public face".
+ */
 final class Document {
     private static final Path PLACE = Path.of("../shared/DOC.md");
 
@@ -18,14 +23,34 @@ final class Document {
 
     static Map<String, String> sections() {
         Map<String, String> sections = new LinkedHashMap<>();
-        for (String part : text().split("(?m)^## ")) {
-            int endOfTitle = part.indexOf('\n');
-            String title = part.substring(0, endOfTitle).split(":")[0].trim();
-            if (title.equals("Terms") || title.startsWith("Promise ")) {
-                sections.put(title, oneLine(part.substring(endOfTitle)));
+        for (Map.Entry<String, String> part : parts().entrySet()) {
+            String title = part.getKey();
+            if (title.equals("What it is") || title.equals("Terms") || title.startsWith("Promise ")) {
+                sections.put(title, oneLine(part.getValue()));
             }
         }
         return sections;
+    }
+
+    /** The class's head, its members, and the brace at the end. */
+    static List<String> face() {
+        List<String> lines = new ArrayList<>();
+        for (String line : parts().getOrDefault("The public face", "").split("\n")) {
+            if (!line.isBlank() && !line.startsWith("```")) {
+                lines.add(line.trim());
+            }
+        }
+        return lines;
+    }
+
+    /** What stands below each title. */
+    private static Map<String, String> parts() {
+        Map<String, String> parts = new LinkedHashMap<>();
+        for (String part : text().split("(?m)^## ")) {
+            int endOfTitle = part.indexOf('\n');
+            parts.put(part.substring(0, endOfTitle).split(":")[0].trim(), part.substring(endOfTitle));
+        }
+        return parts;
     }
 
     private static String text() {

@@ -6,14 +6,14 @@ import java.util.Map;
 import java.util.regex.Matcher;
 import java.util.regex.Pattern;
 
-/** That every word of "Terms" and of the promises stands in a sentence that some test names. */
+/** That every word of "What it is", of "Terms" and of the promises stands in a sentence that some test names. */
 public final class DocumentTest {
     private static final Pattern NAMED = Pattern.compile("\\.sentence\\(\\s*\"([^\"]*)\",\\s*\"([^\"]*)\",");
 
     public static void main(String[] args) throws IOException {
         Expect expect = new Expect();
         String tests = allTests();
-        expect.equal("sections", Document.sections().size(), 20);
+        expect.equal("sections", Document.sections().size(), 21);
         for (Map.Entry<String, String> section : Document.sections().entrySet()) {
             String left = unnamed(section.getKey(), section.getValue(), tests);
             expect.same(section.getKey() + ": words that no test names", left, "");

@@ -8,38 +8,20 @@ import java.util.TreeSet;
 
 /** The public face: what the document names, as it names it, and nothing more (LANGUAGE.md, rules 1 and 5). */
 public final class FaceTest {
-    private static final String[] FACE = {
-        "public void set(int,int,int) throws IndexOutOfBoundsException,IllegalArgumentException",
-        "public int get(int,int) throws IndexOutOfBoundsException",
-        "public int rule(int,int) throws IllegalArgumentException",
-        "public boolean wall(int,int,boolean) throws IndexOutOfBoundsException,IllegalStateException",
-        "public void source(int,int,int) throws IndexOutOfBoundsException,IllegalArgumentException,IllegalStateException",
-        "public boolean sink(int,int,boolean) throws IndexOutOfBoundsException,IllegalStateException",
-        "public boolean body(int,int,boolean) throws IndexOutOfBoundsException,IllegalStateException",
-        "public int edge(int,int) throws IndexOutOfBoundsException",
-        "public void mass(int) throws IllegalArgumentException",
-        "public int account(int) throws IllegalArgumentException",
-        "public void seed(int)",
-        "public int step(int) throws IllegalArgumentException",
-        "public int back(int) throws IllegalArgumentException,UnsupportedOperationException",
-        "public int sum(int,int,int,int,int) throws IndexOutOfBoundsException,IllegalArgumentException",
-        "public int book(int,int) throws IllegalArgumentException",
-        "public int check()",
-        "public int mark(int,int,int) throws IndexOutOfBoundsException,IllegalArgumentException,"
-            + "NoSuchElementException,IllegalStateException,UnsupportedOperationException",
-        "public int marked(int) throws IndexOutOfBoundsException"};
-
     public static void main(String[] args) {
         Expect expect = new Expect();
         Class<?> face = SixWayGas.class;
-        expect.same("the class", Modifier.toString(face.getModifiers()), "public final");
-        methods(expect, face);
-        fields(expect, face);
-        List<String> constructors = new ArrayList<>();
-        for (Constructor<?> constructor : face.getDeclaredConstructors()) {
-            constructors.add(constructor.toString());
-        }
-        expect.same("constructors", constructors.toString(), "[public SixWayGas(int,int)]");
+        expect.equal("lines of the document's face", Document.face().size(), 22);
+        TreeSet<String> shown = new TreeSet<>();
+        shown.add(Modifier.toString(face.getModifiers()) + " class " + face.getName() + " {");
+        shown.add("}");
+        shown.addAll(constructors(face));
+        shown.addAll(fields(expect, face));
+        shown.addAll(methods(expect, face));
+        expect.same("the face", String.join("\n", shown), String.join("\n", documented()));
+        expect.equal("NONE", SixWayGas.NONE, -1);
+        expect.same("what the class extends", face.getSuperclass().getName(), "java.lang.Object");
+        expect.equal("what the class implements", face.getInterfaces().length, 0);
         for (Class<?> inside : face.getDeclaredClasses()) {
             int has = inside.getModifiers();
             expect.equal(inside + " is static", Modifier.isStatic(has), true);
@@ -48,34 +30,56 @@ public final class FaceTest {
         expect.end();
     }
 
-    private static void methods(Expect expect, Class<?> face) {
-        TreeSet<String> due = new TreeSet<>(List.of(FACE));
-        TreeSet<String> shown = new TreeSet<>();
+    /** As reflection writes it: types without names, no values, no blanks behind commas. */
+    private static TreeSet<String> documented() {
+        TreeSet<String> lines = new TreeSet<>();
+        for (String line : Document.face()) {
+            String plain = line.replaceAll("(int|boolean) \\w+(?=[,)])", "$1").replaceAll(" = .*;", ";");
+            lines.add(plain.replace(", ", ",").replace(";", ""));
+        }
+        return lines;
+    }
+
+    private static String plain(Object member) {
+        return member.toString().replace("SixWayGas.", "").replace("java.lang.", "").replace("java.util.", "");
+    }
+
+    private static List<String> constructors(Class<?> face) {
+        List<String> shown = new ArrayList<>();
+        for (Constructor<?> constructor : face.getDeclaredConstructors()) {
+            if (!Modifier.isPrivate(constructor.getModifiers())) {
+                shown.add(plain(constructor));
+            }
+        }
+        return shown;
+    }
+
+    private static List<String> methods(Expect expect, Class<?> face) {
+        List<String> shown = new ArrayList<>();
         TreeSet<String> shownNames = new TreeSet<>();
         TreeSet<String> hiddenNames = new TreeSet<>();
         for (Method method : face.getDeclaredMethods()) {
             if (Modifier.isPrivate(method.getModifiers())) {
                 hiddenNames.add(method.getName());
             } else {
-                String text = method.toString().replace("SixWayGas.", "");
-                shown.add(text.replace("java.lang.", "").replace("java.util.", ""));
+                shown.add(plain(method));
                 shownNames.add(method.getName());
             }
         }
-        expect.same("methods", shown.toString(), due.toString());
         hiddenNames.retainAll(shownNames);
         expect.same("private methods with a public one's name", hiddenNames.toString(), "[]");
+        return shown;
     }
 
-    private static void fields(Expect expect, Class<?> face) {
-        TreeSet<String> shown = new TreeSet<>();
+    private static List<String> fields(Expect expect, Class<?> face) {
+        List<String> shown = new ArrayList<>();
         for (Field field : face.getDeclaredFields()) {
             int has = field.getModifiers();
             if (!Modifier.isPrivate(has)) {
-                shown.add(field.toString());
+                shown.add(plain(field));
             }
             expect.equal(field + " is final if static", !Modifier.isStatic(has) || Modifier.isFinal(has), true);
         }
-        expect.same("fields", shown.toString(), "[public static final int SixWayGas.NONE]");
+        return shown;
     }
 }
